@@ -110,8 +110,7 @@ public final class RegApprox {
         int sets = nameSets();
         findKinds();
         rewrite();
-        answerAcceptance();
-        answerCompletion();
+        answerQuestions();
         return sets;
     }
 
@@ -166,8 +165,7 @@ public final class RegApprox {
         }
         text[textLength] = t;
         textLength++;
-        answerAcceptance();
-        answerCompletion();
+        answerQuestions();
         return textLength;
     }
 
@@ -176,8 +174,7 @@ public final class RegApprox {
             return ERR_PHASE;
         }
         textLength = 0;
-        answerAcceptance();
-        answerCompletion();
+        answerQuestions();
         return OK;
     }
 
@@ -374,15 +371,12 @@ public final class RegApprox {
 
     // ---- Questions about w ----
 
-    private void answerAcceptance() {
+    private void answerQuestions() {
         inGrammar = derives(0, ruleTotal, textLength, false);
         inApprox = derives(MAX_RULES, rewrittenEnd, textLength, false);
-    }
-
-    // The place after w is free even when w is full, so trying a token there leaves w as it is.
-    private void answerCompletion() {
         completable = derives(MAX_RULES, rewrittenEnd, textLength, true);
         followers = 0;
+        // The place after w is free even when w is full, so trying a token there leaves w as it is.
         for (int t = 0; t < terminals; t++) {
             text[textLength] = t;
             if (derives(MAX_RULES, rewrittenEnd, textLength + 1, true)) {
@@ -397,7 +391,7 @@ public final class RegApprox {
         for (int i = 0; i < END_SETS; i++) {
             ends[i] = 0;
         }
-        // What is derived from a position needs the later positions alone, so these are done before it.
+        // What is derived from a position rests on that position and later ones alone, so the last one goes first.
         for (int start = length; start >= 0; start--) {
             boolean changed = true;
             for (int pass = 0; pass < MAX_PASSES && changed; pass++) {

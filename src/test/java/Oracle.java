@@ -237,7 +237,7 @@ final class Oracle {
 
     // ---- Earley's algorithm for one word ----
 
-    /** What Earley's last item set tells about one word: in the language, a beginning of it, tokens that may follow. */
+    /** What the last item set tells about the word: in the language, a beginning of it, tokens that may follow. */
     record Verdict(boolean accepted, boolean live, int mask) {
     }
 
@@ -255,61 +255,75 @@ final class Oracle {
         }
     }
 
-    static Verdict earley(List<String> grammar, String word) {
-        Set<Character> productive = productive(grammar);
-        List<String> useful = grammar.stream().filter(r -> isProductive(right(r), productive)).toList();
-        List<Set<Item>> sets = new ArrayList<>();
-        sets.add(new LinkedHashSet<>());
-        for (String rule : useful) {
-            if (left(rule) == 'A') {
-                sets.get(0).add(new Item(rule, 0, 0));
-            }
+    /** One word, taken token by token. */
+    static final class Earley {
+        private final List<String> useful;
+        private final List<Set<Item>> sets = new ArrayList<>();
+
+        Earley(List<String> grammar) {
+            // Without the rules that derive nothing, every item left stands for a word that can be completed.
+            Set<Character> productive = productive(grammar);
+            useful = grammar.stream().filter(r -> isProductive(right(r), productive)).toList();
+            Set<Item> first = new LinkedHashSet<>();
+            predict('A', 0, first);
+            close(first);
         }
-        close(useful, sets);
-        for (char token : word.toCharArray()) {
+
+        void feed(char token) {
             Set<Item> after = new LinkedHashSet<>();
             for (Item item : sets.get(sets.size() - 1)) {
                 if (!item.done() && item.next() == token) {
                     after.add(item.on());
                 }
             }
-            sets.add(after);
-            close(useful, sets);
+            close(after);
         }
-        return verdict(sets.get(word.length()));
-    }
 
-    private static void close(List<String> useful, List<Set<Item>> sets) {
-        int here = sets.size() - 1;
-        Set<Item> set = sets.get(here);
-        int before = -1;
-        // Repeated until nothing is new: then a nonterminal that derives the empty string needs no special care.
-        while (before != set.size()) {
-            before = set.size();
-            for (Item item : new ArrayList<>(set)) {
-                if (item.done()) {
-                    for (Item waiting : new ArrayList<>(sets.get(item.from()))) {
-                        if (!waiting.done() && waiting.next() == left(item.rule())) {
-                            set.add(waiting.on());
-                        }
-                    }
-                } else {
-                    useful.stream().filter(r -> left(r) == item.next()).forEach(r -> set.add(new Item(r, 0, here)));
+        private void predict(char a, int here, Set<Item> set) {
+            for (String rule : useful) {
+                if (left(rule) == a) {
+                    set.add(new Item(rule, 0, here));
                 }
             }
         }
-    }
 
-    private static Verdict verdict(Set<Item> last) {
-        boolean accepted = false;
-        int mask = 0;
-        for (Item item : last) {
-            accepted |= item.done() && item.from() == 0 && left(item.rule()) == 'A';
-            if (!item.done() && !isNonterminal(item.next())) {
-                mask |= 1 << (item.next() - 'a');
+        private void close(Set<Item> set) {
+            int here = sets.size();
+            sets.add(set);
+            int before = -1;
+            // Repeated until nothing is new: then a nonterminal that derives the empty string needs no special care.
+            while (before != set.size()) {
+                before = set.size();
+                for (Item item : new ArrayList<>(set)) {
+                    if (item.done()) {
+                        complete(item, set);
+                    } else {
+                        predict(item.next(), here, set);
+                    }
+                }
             }
         }
-        return new Verdict(accepted, !last.isEmpty(), mask);
+
+        private void complete(Item done, Set<Item> set) {
+            for (Item waiting : new ArrayList<>(sets.get(done.from()))) {
+                if (!waiting.done() && waiting.next() == left(done.rule())) {
+                    set.add(waiting.on());
+                }
+            }
+        }
+
+        Verdict verdict() {
+            Set<Item> last = sets.get(sets.size() - 1);
+            boolean accepted = false;
+            int mask = 0;
+            for (Item item : last) {
+                accepted |= item.done() && item.from() == 0 && left(item.rule()) == 'A';
+                if (!item.done() && !isNonterminal(item.next())) {
+                    mask |= 1 << (item.next() - 'a');
+                }
+            }
+            return new Verdict(accepted, !last.isEmpty(), mask);
+        }
     }
 
     private static char left(String rule) {

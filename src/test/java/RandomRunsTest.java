@@ -148,34 +148,45 @@ public final class RandomRunsTest {
 
     /** Some words of up to 12 tokens, most of them kept completable, against Earley's algorithm. */
     private void longWords(RegApprox x, Oracle oracle, String where) {
-        for (int walk = 0; walk < 2; walk++) {
-            StringBuilder word = new StringBuilder();
+        for (int walk = 0; walk < 3; walk++) {
+            Oracle.Earley approx = new Oracle.Earley(oracle.rewritten);
+            Oracle.Earley grammar = new Oracle.Earley(oracle.rules);
+            String word = "";
             check.due(where + " clearInput()", x.clearInput(), 0);
             for (int step = 0; step < 14; step++) {
-                Oracle.Verdict approx = Oracle.earley(oracle.rewritten, word.toString());
-                Oracle.Verdict grammar = Oracle.earley(oracle.rules, word.toString());
-                check.word(x, where + " " + word, Given.answers(approx.accepted(), grammar.accepted(), approx.live(),
-                        approx.mask()));
+                Oracle.Verdict wide = approx.verdict();
+                Oracle.Verdict narrow = grammar.verdict();
+                check.word(x, where + " " + word,
+                        Given.answers(wide.accepted(), narrow.accepted(), wide.live(), wide.mask()));
                 check.due(where + " inputLength()", x.inputLength(), word.length());
-                feed(x, oracle, word, approx.mask(), where);
+                refusedFeeds(x, oracle, where + " " + word);
+                if (word.length() < 12) {
+                    char token = (char) ('a' + choose(oracle.terminals, wide.mask()));
+                    word += token;
+                    check.due(where + " feed to " + word, x.feed(token - 'a'), word.length());
+                    approx.feed(token);
+                    grammar.feed(token);
+                }
             }
         }
     }
 
-    private void feed(RegApprox x, Oracle oracle, StringBuilder word, int mask, String where) {
-        int t = below(oracle.terminals);
+    /** A token, most often one of the mask. */
+    private int choose(int terminals, int mask) {
+        int t = below(terminals);
         for (int tries = 0; tries < 8 && (mask >> t & 1) == 0; tries++) {
-            t = below(oracle.terminals);
+            t = below(terminals);
         }
+        return t;
+    }
+
+    private void refusedFeeds(RegApprox x, Oracle oracle, String where) {
         if (below(8) == 0) {
             int far = FAR[below(FAR.length)];
             check.due(where + " feed(" + far + ")", x.feed(far), RegApprox.ERR_RANGE);
         }
-        if (word.length() == 12) {
-            check.due(where + " feed(" + t + ") to a full w", x.feed(t), RegApprox.ERR_FULL);
-        } else {
-            word.append((char) ('a' + t));
-            check.due(where + " feed(" + t + ")", x.feed(t), word.length());
+        if (x.inputLength() == 12) {
+            check.due(where + " feed to a full w", x.feed(below(oracle.terminals)), RegApprox.ERR_FULL);
         }
     }
 }
