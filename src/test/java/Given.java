@@ -1,5 +1,10 @@
 /** Grammars and words as text: nonterminals are A to F (A is 0, the start), terminals are a to d. */
 final class Given {
+    /** Out of every range. Cut to fewer bits, shifted by or added to, many of them would fall into one. */
+    static final int[] FAR = {Integer.MIN_VALUE, Integer.MIN_VALUE + 1, Integer.MIN_VALUE + 12, -1 << 30, -65536, -256,
+        -32, -12, -6, -1, 6, 7, 8, 12, 13, 32, 33, 64, 256, 257, 65536, 65537, 1 << 30, Integer.MAX_VALUE - 12,
+        Integer.MAX_VALUE - 1, Integer.MAX_VALUE};
+
     private Given() {
     }
 

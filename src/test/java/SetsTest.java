@@ -1,161 +1,361 @@
-/** Promises 6 to 10. */
-public final class SetsTest {
-    private static final int PLAIN = RegApprox.KIND_PLAIN;
-    private static final int RIGHT = RegApprox.KIND_RIGHT;
-    private static final int LEFT = RegApprox.KIND_LEFT;
-    private static final int SELF = RegApprox.KIND_SELF;
+import java.util.function.Supplier;
 
-    private final Check check = new Check("SetsTest");
+/** Promises 6 to 10, sentence by sentence. What sets and kinds are is tested in GrammarTest. */
+public final class SetsTest {
+    private static final int PHASE = RegApprox.ERR_PHASE;
+    private static final int RANGE = RegApprox.ERR_RANGE;
+    private static final int[] ANY = {Integer.MIN_VALUE, -1, 0, 1, 2, 3, 4, 6, Integer.MAX_VALUE};
+
+    private static final Check CHECK = new Check("SetsTest");
 
     public static void main(String[] args) {
-        SetsTest test = new SetsTest();
-        test.beforeBuild();
-        test.buildTwice();
-        test.noRules();
-        test.emptyRuleAtTheEnd();
-        test.outOfRange();
-        test.sets();
-        test.kinds();
-        test.sizes();
-        test.check.end();
+        ending();
+        setOf();
+        setKind();
+        selfEmbedding();
+        transformedRuleCount();
+        CHECK.end();
     }
 
-    private void beforeBuild() {
-        RegApprox x = Given.entered(2, 2, "A->aAb");
-        for (int a : new int[] {Integer.MIN_VALUE, -1, 0, 1, 2, Integer.MAX_VALUE}) {
-            check.due("EDIT: setOf(" + a + ")", x.setOf(a), RegApprox.ERR_PHASE);
-            check.due("EDIT: setKind(" + a + ")", x.setKind(a), RegApprox.ERR_PHASE);
+    private static Supplier<RegApprox> edit(String... rules) {
+        return () -> Given.entered(3, 2, rules);
+    }
+
+    private static Supplier<RegApprox> built(String word, String... rules) {
+        return () -> Given.word(Given.built(3, 2, rules), word);
+    }
+
+    // ---- Promise 6 ----
+
+    private static void ending() {
+        refusedInBuilt();
+        phaseBecomesBuilt();
+        inputIsEmpty();
+        numberOfSets();
+        entryIsRefused();
+        grammarStays();
+        emptyRightSides();
+        zeroRules();
+    }
+
+    private static void refusedInBuilt() {
+        CHECK.says("In phase BUILT it is refused and answers `ERR_PHASE`, changing nothing.");
+        for (String word : new String[] {"", "a", "aab", "bbb", "aaaaaabbbbbb", "bbbbbbbbbbbb"}) {
+            Unchanged.by(CHECK, "BUILT: build()", built(word, "A->aAb", "A->B", "B->"), x -> x.build(), PHASE);
+            Unchanged.by(CHECK, "BUILT, no rules: build()", built(word), x -> x.build(), PHASE);
         }
-        check.due("EDIT: selfEmbedding()", x.selfEmbedding(), false);
-        check.due("EDIT: transformedRuleCount()", x.transformedRuleCount(), RegApprox.ERR_PHASE);
-        check.due("build() after the refusals", x.build(), 2);
-        check.due("BUILT: selfEmbedding()", x.selfEmbedding(), true);
+        RegApprox x = built("aab", "A->aAb", "A->").get();
+        CHECK.due("build() again", x.build(), PHASE);
+        CHECK.due("inputLength() after it", x.inputLength(), 3);
+        CHECK.due("transformedRuleCount() after it", x.transformedRuleCount(), 4);
+        CHECK.word(x, "aab after it", "approx - live b");
     }
 
-    private void buildTwice() {
-        RegApprox x = Given.built(2, 2, "A->aAb", "A->");
-        Given.word(x, "aab");
-        check.due("build() again", x.build(), RegApprox.ERR_PHASE);
-        check.due("inputLength() after build() again", x.inputLength(), 3);
-        check.due("ruleCount() after build() again", x.ruleCount(), 2);
-        check.due("transformedRuleCount() after build() again", x.transformedRuleCount(), 4);
-        check.word(x, "A->aAb | : aab after build() again", "approx - live b");
+    private static void phaseBecomesBuilt() {
+        CHECK.says("Otherwise the phase becomes BUILT, the sets, the kinds and G2 are fixed as defined in \"What it is\"");
+        RegApprox x = Given.entered(3, 2, "A->aBb", "B->A", "C->aC");
+        CHECK.due("build()", x.build(), 2);
+        CHECK.due("setOf(1)", x.setOf(1), 0);
+        CHECK.due("setOf(2)", x.setOf(2), 2);
+        CHECK.due("setKind(0)", x.setKind(0), RegApprox.KIND_SELF);
+        CHECK.due("setKind(1)", x.setKind(1), RegApprox.KIND_SELF);
+        CHECK.due("setKind(2)", x.setKind(2), RegApprox.KIND_RIGHT);
+        CHECK.due("selfEmbedding()", x.selfEmbedding(), true);
+        CHECK.due("transformedRuleCount()", x.transformedRuleCount(), 2 + 2 + 1 + 2);
+        CHECK.due("feed(0)", x.feed(0), 1);
     }
 
-    private void noRules() {
+    private static void inputIsEmpty() {
+        CHECK.says("and w is empty.");
+        RegApprox x = Given.entered(1, 2, "A->", "A->aa");
+        x.feed(0);
+        x.feed(0);
+        CHECK.due("build()", x.build(), 1);
+        CHECK.due("inputLength()", x.inputLength(), 0);
+        CHECK.word(x, "A-> | aa: empty", "approx grammar live a");
+        CHECK.due("the first feed(0)", x.feed(0), 1);
+    }
+
+    private static void numberOfSets() {
+        CHECK.says("The call answers the number of distinct sets among 0..N-1 (1..N).");
+        for (int n = 1; n <= 6; n++) {
+            for (int circle = 1; circle <= n; circle++) {
+                RegApprox x = new RegApprox(n, 1);
+                // The last `circle` of them use each other in turn.
+                for (int i = 0; i < circle; i++) {
+                    x.rule(n - circle + i);
+                    x.nonterminal(n - circle + (i + 1) % circle);
+                }
+                CHECK.due(circle + " of " + n + " in a circle: build()", x.build(), n - circle + 1);
+            }
+        }
+        CHECK.due("three pairs: build()",
+                Given.entered(6, 1, "A->D", "D->A", "B->E", "E->B", "C->F", "F->C").build(), 3);
+    }
+
+    private static void entryIsRefused() {
+        CHECK.says("From then on `rule`, `terminal` and `nonterminal` answer `ERR_PHASE`");
+        String[][] grammars = {{}, {"A->"}, {"A->aAb", "B->a"}, {"A->aaaa", "A->aaaa", "A->aaaa"}};
+        for (String[] rules : grammars) {
+            RegApprox x = Given.built(2, 2, rules);
+            for (int i = 0; i < 14; i++) {
+                CHECK.due("BUILT: rule(0)", x.rule(0), PHASE);
+                CHECK.due("BUILT: terminal(0)", x.terminal(0), PHASE);
+                CHECK.due("BUILT: nonterminal(0)", x.nonterminal(0), PHASE);
+                x.feed(1);
+            }
+            x.clearInput();
+            x.build();
+            CHECK.due("BUILT, w cleared: rule(1)", x.rule(1), PHASE);
+            CHECK.due("BUILT, w cleared: terminal(1)", x.terminal(1), PHASE);
+            CHECK.due("BUILT, w cleared: nonterminal(1)", x.nonterminal(1), PHASE);
+        }
+    }
+
+    private static void grammarStays() {
+        CHECK.says("and G stays as it was when `build()` was called");
+        RegApprox x = Given.built(2, 2, "B->b", "A->a");
+        x.terminal(1);
+        x.nonterminal(0);
+        x.rule(0);
+        x.terminal(1);
+        x.build();
+        CHECK.due("ruleCount()", x.ruleCount(), 2);
+        CHECK.due("transformedRuleCount()", x.transformedRuleCount(), 2);
+        CHECK.due("setKind(0)", x.setKind(0), RegApprox.KIND_PLAIN);
+        CHECK.word(x, "A->a: empty", "- - live a");
+        CHECK.word(Given.word(x, "a"), "A->a: a", "approx grammar live 0");
+        CHECK.word(Given.word(x, "b"), "A->a: b", "- - - 0");
+    }
+
+    private static void emptyRightSides() {
+        CHECK.says("including any rule left with an empty right side.");
+        String[][] grammars = {{"A->aaa", "A->"}, {"A->", "A->aaa"}, {"A->aaa", "A->", "A->aaa"},
+            {"A->aaa", "A->B", "B->"}};
+        for (String[] rules : grammars) {
+            RegApprox x = Given.built(2, 1, rules);
+            x.terminal(0);
+            CHECK.due("ruleCount()", x.ruleCount(), rules.length);
+            CHECK.due("transformedRuleCount()", x.transformedRuleCount(), rules.length);
+            CHECK.word(x, String.join(", ", rules) + ": empty", "approx grammar live a");
+            CHECK.word(Given.word(x, "a"), String.join(", ", rules) + ": a", "- - live a");
+        }
+        RegApprox only = Given.built(1, 1, "A->");
+        CHECK.word(only, "A->: empty", "approx grammar live 0");
+        RegApprox self = Given.built(1, 2, "A->aAb", "A->");
+        CHECK.word(self, "A->aAb | : empty", "approx grammar live ab");
+    }
+
+    private static void zeroRules() {
+        CHECK.says("It also works with zero rules; then every nonterminal is alone in its set, so the answer is N, every "
+                + "set is `KIND_PLAIN`, and L = L2 = empty.");
         for (int n = 1; n <= 6; n++) {
             RegApprox x = new RegApprox(n, 2);
-            check.due("build() of " + n + " without rules", x.build(), n);
+            CHECK.due("build() of " + n + " without rules", x.build(), n);
             for (int a = 0; a < n; a++) {
-                check.due("no rules: setOf(" + a + ")", x.setOf(a), a);
-                check.due("no rules: setKind(" + a + ")", x.setKind(a), PLAIN);
+                CHECK.due("no rules: setOf(" + a + ")", x.setOf(a), a);
+                CHECK.due("no rules: setKind(" + a + ")", x.setKind(a), RegApprox.KIND_PLAIN);
             }
-            check.due("no rules: selfEmbedding()", x.selfEmbedding(), false);
-            check.due("no rules: transformedRuleCount()", x.transformedRuleCount(), 0);
-            check.due("no rules: inputLength()", x.inputLength(), 0);
-            check.word(x, "no rules", "- - - 0");
-            check.due("no rules: feed(1)", x.feed(1), 1);
-            check.word(x, "no rules: b", "- - - 0");
+            CHECK.due("no rules: selfEmbedding()", x.selfEmbedding(), false);
+            CHECK.due("no rules: transformedRuleCount()", x.transformedRuleCount(), 0);
+            CHECK.word(x, "no rules: empty", "- - - 0");
+            for (int length = 1; length <= 12; length++) {
+                CHECK.due("no rules: feed(1)", x.feed(1), length);
+                CHECK.word(x, "no rules: b..", "- - - 0");
+            }
         }
     }
 
-    private void emptyRuleAtTheEnd() {
-        RegApprox x = Given.built(1, 1, "A->aaa", "A->");
-        check.due("ruleCount() with an empty rule at the end", x.ruleCount(), 2);
-        check.word(x, "A->aaa | : empty", "approx grammar live a");
-    }
+    // ---- Promise 7 ----
 
-    private void outOfRange() {
-        RegApprox x = Given.built(3, 1, "A->aAa");
-        for (int a : new int[] {Integer.MIN_VALUE, Integer.MIN_VALUE + 1, -7, -1, 3, 4, 6, Integer.MAX_VALUE}) {
-            check.due("setOf(" + a + ") of 3", x.setOf(a), RegApprox.ERR_RANGE);
-            check.due("setKind(" + a + ") of 3", x.setKind(a), RegApprox.ERR_RANGE);
+    private static void setOf() {
+        CHECK.says("`setOf(int a)` answers the name (smallest member) of the set containing a.");
+        names("ABCBB", "E->D", "D->B", "B->E");
+        names("ABBA", "D->A", "A->D", "C->B", "B->C");
+
+        CHECK.says("phase EDIT answers `ERR_PHASE`; a < 0 or a >= N answers `ERR_RANGE`.");
+        CHECK.due("EDIT: setOf(0)", edit("A->aA").get().setOf(0), PHASE);
+        CHECK.due("EDIT, no rules: setOf(2)", edit().get().setOf(2), PHASE);
+        for (int n = 1; n <= 6; n++) {
+            RegApprox x = Given.built(n, 1, "A->A");
+            CHECK.due("setOf(-1) of " + n, x.setOf(-1), RANGE);
+            CHECK.due("setOf(0) of " + n, x.setOf(0), 0);
+            CHECK.due("setOf(N-1) of " + n, x.setOf(n - 1), n - 1);
+            for (int a = n; a <= 8; a++) {
+                CHECK.due("setOf(" + a + ") of " + n, x.setOf(a), RANGE);
+            }
+        }
+
+        CHECK.says("The conditions are examined in this order: phase EDIT answers `ERR_PHASE`");
+        for (int far : Given.FAR) {
+            CHECK.due("EDIT: setOf(" + far + ")", edit("A->aA").get().setOf(far), PHASE);
+        }
+        CHECK.due("EDIT: setOf(3) of 3", edit("A->aA").get().setOf(3), PHASE);
+
+        CHECK.says("Otherwise the answer is in 0..a, and two nonterminals get the same answer exactly when they are in "
+                + "the same set.");
+        names("AAAAAA", "A->B", "B->C", "C->D", "D->E", "E->F", "F->A");
+        names("ABCDEF", "A->F", "B->F", "C->F", "D->F", "E->F");
+        names("ABABAB", "A->C", "C->E", "E->A", "B->D", "D->F", "F->B");
+        names("ABCCBA", "A->F", "F->A", "B->E", "E->B", "C->D", "D->C");
+        names("ABCDEE", "E->F", "F->E");
+        names("A", "A->A");
+
+        CHECK.says("It changes nothing.");
+        for (int a : ANY) {
+            int name = a < 0 || a > 2 ? RANGE : a == 2 ? 2 : 0;
+            Unchanged.by(CHECK, "EDIT: setOf(" + a + ")", edit("A->aA", "B->a"), x -> x.setOf(a), PHASE);
+            Unchanged.by(CHECK, "setOf(" + a + ")", built("ab", "A->aBb", "B->A", "A->C"), x -> x.setOf(a), name);
         }
     }
 
-    private void sets() {
-        sets("one after the other", "ABC", "A->B", "B->C", "C->a");
-        sets("a cycle of three", "AAA", "A->B", "B->C", "C->A");
-        sets("a cycle the other way round", "AAA", "A->C", "C->B", "B->A");
-        sets("a cycle of six", "AAAAAA", "A->F", "F->B", "B->E", "E->C", "C->D", "D->A");
-        sets("two cycles, one uses the other", "ABBA", "A->DB", "D->A", "B->C", "C->B");
-        sets("a cycle that 0 is not in", "ABCB", "A->a", "B->D", "D->B");
-        sets("its own user", "AB", "A->A", "B->B");
-        sets("reached but not reaching", "AB", "A->BB", "B->bB");
-        sets("two cycles joined in one", "AAAA", "A->B", "B->A", "B->C", "C->D", "D->B");
-        sets("a use in the middle of a right side", "AA", "A->aBb", "B->bAa");
-        sets("a use that derives nothing", "AAC", "A->BC", "B->A");
-        sets("a use beside another rule of the same left side", "AAC", "A->a", "A->B", "B->b", "B->CA");
-    }
-
-    /** The names of the sets of A, B, .. in order. */
-    private void sets(String what, String names, String... rules) {
-        RegApprox x = Given.entered(names.length(), 2, rules);
-        check.due(what + ": build()", x.build(), names.chars().distinct().count());
+    private static void names(String names, String... rules) {
+        RegApprox x = Given.built(names.length(), 1, rules);
         for (int a = 0; a < names.length(); a++) {
-            check.due(what + ": setOf(" + a + ")", x.setOf(a), names.charAt(a) - 'A');
+            CHECK.due(String.join(", ", rules) + ": setOf(" + a + ")", x.setOf(a), names.charAt(a) - 'A');
         }
     }
 
-    private void kinds() {
-        kinds("no use at all", new int[] {PLAIN}, "A->ab");
-        kinds("uses of other sets alone", new int[] {PLAIN, PLAIN}, "A->BaB", "B->b");
-        kinds("last", new int[] {RIGHT}, "A->aA", "A->b");
-        kinds("first", new int[] {LEFT}, "A->Aa", "A->b");
-        kinds("first and last", new int[] {RIGHT}, "A->A", "A->b");
-        kinds("first and last, one beside one first", new int[] {LEFT}, "A->A", "A->Ab");
-        kinds("first and last, one beside one last", new int[] {RIGHT}, "A->A", "A->bA");
-        kinds("one first, one last", new int[] {SELF}, "A->aA", "A->Aa");
-        kinds("in the middle", new int[] {SELF}, "A->aAa");
-        kinds("twice, first and last", new int[] {SELF}, "A->AA", "A->a");
-        kinds("twice, the second last", new int[] {SELF}, "A->aAA");
-        kinds("twice, the first at the first place", new int[] {SELF}, "A->AAa");
-        kinds("in the middle beside last ones", new int[] {SELF}, "A->aA", "A->aAb", "A->aA");
-        kinds("last after another set", new int[] {RIGHT, PLAIN}, "A->BA", "B->b");
-        kinds("first before another set", new int[] {LEFT, PLAIN}, "A->AB", "B->b");
-        kinds("between other sets", new int[] {SELF, PLAIN}, "A->BAB", "B->b");
-        kinds("another set without rules makes a middle too", new int[] {SELF, PLAIN}, "A->aAB");
-        kinds("two of one set, both last", new int[] {RIGHT, RIGHT}, "A->aB", "B->bA", "B->");
-        kinds("two of one set, both first", new int[] {LEFT, LEFT}, "A->Ba", "B->Ab", "B->");
-        kinds("two of one set, one last, one first", new int[] {SELF, SELF}, "A->aB", "B->Ab", "B->");
-        kinds("two of one set, one alone, one first", new int[] {LEFT, LEFT}, "A->B", "B->Ab");
-        kinds("two of one set, one alone, one last", new int[] {RIGHT, RIGHT}, "A->B", "B->bA");
-        kinds("every kind", new int[] {PLAIN, RIGHT, LEFT, SELF, PLAIN}, "A->BCDE", "B->aB", "C->Ca", "D->aDa");
-        kinds("a set used at the middle by another", new int[] {SELF, RIGHT}, "A->aAB", "B->bB");
-    }
+    // ---- Promise 8 ----
 
-    private void kinds(String what, int[] kinds, String... rules) {
-        RegApprox x = Given.built(kinds.length, 2, rules);
-        boolean self = false;
-        for (int a = 0; a < kinds.length; a++) {
-            check.due(what + ": setKind(" + a + ")", x.setKind(a), kinds[a]);
-            self |= kinds[a] == SELF;
+    private static void setKind() {
+        CHECK.says("`setKind(int a)` answers the kind (`KIND_PLAIN`..`KIND_SELF`) of the set containing a.");
+        RegApprox each = Given.built(4, 2, "A->BCD", "B->aB", "C->Ca", "D->aDa");
+        for (int a = 0; a < 4; a++) {
+            CHECK.due("setKind(" + a + ")", each.setKind(a), a);
         }
-        check.due(what + ": selfEmbedding()", x.selfEmbedding(), self);
-        if (!self) {
-            check.due(what + ": transformedRuleCount()", x.transformedRuleCount(), x.ruleCount());
+
+        CHECK.says("The conditions are the same as for `setOf(a)`, in the same order: phase EDIT answers `ERR_PHASE`; "
+                + "a < 0 or a >= N answers `ERR_RANGE`.");
+        for (int n = 1; n <= 6; n++) {
+            RegApprox x = Given.entered(n, 1, "A->aAa");
+            for (int far : Given.FAR) {
+                CHECK.due("EDIT: setKind(" + far + ")", x.setKind(far), PHASE);
+            }
+            CHECK.due("EDIT: setKind(0)", x.setKind(0), PHASE);
+            CHECK.due("EDIT: setKind(N)", x.setKind(n), PHASE);
+            x.build();
+            CHECK.due("setKind(-1) of " + n, x.setKind(-1), RANGE);
+            CHECK.due("setKind(0) of " + n, x.setKind(0), RegApprox.KIND_SELF);
+            CHECK.due("setKind(N-1) of " + n, x.setKind(n - 1), n == 1 ? RegApprox.KIND_SELF : RegApprox.KIND_PLAIN);
+            for (int a = n; a <= 8; a++) {
+                CHECK.due("setKind(" + a + ") of " + n, x.setKind(a), RANGE);
+            }
+        }
+
+        CHECK.says("All members of one set get the same answer.");
+        kindOfAll(RegApprox.KIND_SELF, "A->aBb", "B->C", "C->D", "D->A", "D->");
+        kindOfAll(RegApprox.KIND_SELF, "A->B", "B->C", "C->D", "D->aAb");
+        kindOfAll(RegApprox.KIND_LEFT, "A->Ba", "B->C", "C->D", "D->A");
+        kindOfAll(RegApprox.KIND_LEFT, "A->B", "B->C", "C->D", "D->Aa");
+        kindOfAll(RegApprox.KIND_RIGHT, "A->aB", "B->C", "C->D", "D->A");
+        kindOfAll(RegApprox.KIND_RIGHT, "A->B", "B->C", "C->D", "D->A");
+        kindOfAll(RegApprox.KIND_PLAIN, "A->a");
+
+        CHECK.says("It changes nothing.");
+        for (int a : ANY) {
+            int kind = a < 0 || a > 2 ? RANGE : a == 2 ? RegApprox.KIND_PLAIN : RegApprox.KIND_SELF;
+            Unchanged.by(CHECK, "EDIT: setKind(" + a + ")", edit("A->aA", "B->a"), x -> x.setKind(a), PHASE);
+            Unchanged.by(CHECK, "setKind(" + a + ")", built("ab", "A->aBb", "B->A", "A->C"), x -> x.setKind(a), kind);
         }
     }
 
-    private void sizes() {
-        size(2, 1, "A->aA", "A->b");
-        size(2, 1, "A->b", "A->b");
-        size(3, 1, "A->aAb");
-        size(5, 1, "A->aAb", "A->aAb");
-        size(3, 1, "A->b", "A->aA", "A->b");
-        size(2 + 1 + 1, 1, "A->aAb", "A->");
-        size(5 + 1, 1, "A->AAAA");
-        size(2 + 1 + 1, 2, "A->aAB", "B->bB");
-        size(2 + 2 + 2, 2, "A->aBb", "B->A");
-        size(2 + 2 + 1 + 2, 3, "A->aBb", "B->CA", "C->");
-        size(8 + 12 + 6, 6, "A->BBBB", "B->CC", "C->D", "D->E", "E->F", "F->A", "A->A", "A->A");
-        size(2 + 2 + 2 + 3, 3, "A->aAb", "B->aBb", "C->aCb");
+    private static void kindOfAll(int kind, String... rules) {
+        RegApprox x = Given.built(4, 2, rules);
+        for (int a = 0; a < 4; a++) {
+            CHECK.due(String.join(", ", rules) + ": setKind(" + a + ")", x.setKind(a), kind);
+        }
     }
 
-    private void size(int rules, int nonterminals, String... given) {
-        RegApprox x = Given.built(nonterminals, 2, given);
-        check.due(String.join(", ", given) + ": transformedRuleCount()", x.transformedRuleCount(), rules);
+    // ---- Promise 9 ----
+
+    private static void selfEmbedding() {
+        CHECK.says("`selfEmbedding()` answers true exactly when the phase is BUILT and at least one set has kind "
+                + "`KIND_SELF`.");
+        embeds(false);
+        embeds(false, "A->aA", "B->Ba", "C->aB");
+        embeds(false, "A->AB", "B->bB", "C->C");
+        embeds(true, "A->aAb");
+        embeds(true, "B->aBb");
+        embeds(true, "C->aCb", "A->a");
+        embeds(true, "A->aAb", "B->aBb", "C->aCb");
+        embeds(true, "B->aC", "C->Ba");
+
+        CHECK.says("In phase EDIT it answers false.");
+        CHECK.due("EDIT, no rules: selfEmbedding()", edit().get().selfEmbedding(), false);
+        CHECK.due("EDIT: selfEmbedding()", edit("A->aAb").get().selfEmbedding(), false);
+        CHECK.due("EDIT: selfEmbedding()", edit("B->aBb", "A->a").get().selfEmbedding(), false);
+
+        CHECK.says("It changes nothing.");
+        Unchanged.by(CHECK, "EDIT: selfEmbedding()", edit("A->aAb"), x -> x.selfEmbedding() ? 1 : 0, 0);
+        Unchanged.by(CHECK, "selfEmbedding()", built("aab", "A->aAb", "A->"), x -> x.selfEmbedding() ? 1 : 0, 1);
+        Unchanged.by(CHECK, "selfEmbedding()", built("aab", "A->aA", "A->"), x -> x.selfEmbedding() ? 1 : 0, 0);
+    }
+
+    private static void embeds(boolean due, String... rules) {
+        RegApprox x = Given.entered(3, 2, rules);
+        x.build();
+        CHECK.due(String.join(", ", rules) + ": selfEmbedding()", x.selfEmbedding(), due);
+        x.feed(1);
+        CHECK.due(String.join(", ", rules) + ": selfEmbedding() later", x.selfEmbedding(), due);
+    }
+
+    // ---- Promise 10 ----
+
+    private static void transformedRuleCount() {
+        CHECK.says("In phase EDIT it answers `ERR_PHASE`.");
+        CHECK.due("EDIT, no rules: transformedRuleCount()", edit().get().transformedRuleCount(), PHASE);
+        CHECK.due("EDIT: transformedRuleCount()", edit("A->a").get().transformedRuleCount(), PHASE);
+        CHECK.due("EDIT: transformedRuleCount()", edit("A->aAb").get().transformedRuleCount(), PHASE);
+
+        CHECK.says("1 for each rule of G whose left side's set is not `KIND_SELF`;");
+        size(1 + 2 + 1, "A->aAb", "B->b");
+        size(4 + 2 + 1, "A->aAb", "B->bB", "B->", "C->CbB", "C->A");
+
+        CHECK.says("plus (m + 1) for each rule of G whose left side's set is `KIND_SELF`, where m is that rule's number "
+                + "of member occurrences;");
+        size(1 + 2 + 1, "A->", "A->aAb");
+        size(1 + 2 + 1, "A->b", "A->aAb");
+        size(2 + 2 + 1, "A->aA", "A->Ab");
+        size(3 + 1, "A->AA");
+        size(4 + 1, "A->AbAA");
+        size(5 + 1, "A->AAAA");
+        size(3 + 1, "A->ABAC");
+        size(3 + 2 + 2, "A->BA", "B->A");
+        size(2 + 1 + 1, "A->aAb", "A->BC");
+
+        CHECK.says("plus the number of nonterminals whose set is `KIND_SELF`.");
+        size(2 + 2 + 2, "A->aBb", "B->A");
+        size(2 + 2 + 2 + 3, "A->aBb", "B->C", "C->A");
+        size(2 + 2 + 2 + 3, "A->aAb", "B->aBb", "C->aCb");
+        size(2 + 1, "C->aCb");
+
+        CHECK.says("Identical rules count once for each copy.");
+        size(3, "A->b", "A->b", "A->b");
+        size(2 + 2 + 2 + 1, "A->aAb", "A->aAb", "A->aAb");
+        size(1 + 1 + 2 + 1, "A->", "A->", "A->aAb");
+
+        CHECK.says("When no set has kind `KIND_SELF`, the answer equals `ruleCount()`.");
+        size(0);
+        size(1, "A->");
+        size(8, "A->aA", "A->aB", "B->Ba", "B->CC", "C->", "C->", "A->", "B->b");
+
+        CHECK.says("In phase BUILT the count is the sum of three parts:");
+        RegApprox most = Given.built(6, 1, "A->BBBB", "B->CC", "C->D", "D->E", "E->F", "F->A", "A->A", "A->A");
+        CHECK.due("eight rules, twelve symbols, all members", most.transformedRuleCount(), 8 + 12 + 6);
+
+        CHECK.says("It changes nothing.");
+        Unchanged.by(CHECK, "EDIT: transformedRuleCount()", edit("A->aA"), x -> x.transformedRuleCount(), PHASE);
+        Unchanged.by(CHECK, "transformedRuleCount()", built("ab", "A->aAb"), x -> x.transformedRuleCount(), 3);
+    }
+
+    private static void size(int due, String... rules) {
+        RegApprox x = Given.built(3, 2, rules);
+        CHECK.due(String.join(", ", rules) + ": transformedRuleCount()", x.transformedRuleCount(), due);
+        if (!x.selfEmbedding()) {
+            CHECK.due(String.join(", ", rules) + ": ruleCount()", x.ruleCount(), due);
+        }
         Given.word(x, "ab");
-        check.due(String.join(", ", given) + ": transformedRuleCount() later", x.transformedRuleCount(), rules);
+        CHECK.due(String.join(", ", rules) + ": transformedRuleCount() later", x.transformedRuleCount(), due);
     }
 }

@@ -1,183 +1,304 @@
-/** Promises 14 to 17, with answers found by hand. */
+import java.util.function.Consumer;
+import java.util.function.Predicate;
+import java.util.function.Supplier;
+
+/** Promises 14 to 17, sentence by sentence, with answers found by hand. What L and L2 are is tested in GrammarTest. */
 public final class WordsTest {
+    private static final String TWELVE = "aaaaaabbbbbb";
+    private static final String[] BRACKETS = {"A->aAb", "A->c"};
+
+    // Each has a set that is self-embedding or an end that L2 and L have in common, in another way than the others.
+    private static final String[][] GRAMMARS = {{}, {"A->"}, {"A->aA"}, {"A->aA", "A->"}, {"A->abc"}, {"A->aB", "A->b"},
+        BRACKETS, {"A->aAa", "A->bAb", "A->"}, {"A->AbA", "A->a", "A->cB", "B->"}, {"A->aBc", "B->Ab", "B->b"},
+        {"A->BcB", "B->aBb", "B->"}, {"A->BC", "B->A", "B->", "A->aAb"}, {"A->Ab", "A->B", "B->aB", "B->c"}};
+
     private static final Check CHECK = new Check("WordsTest");
 
     public static void main(String[] args) {
-        beforeBuild();
-        notSelfEmbedding();
-        selfEmbedding();
-        emptyLanguages();
-        emptyStrings();
-        otherSets();
-        longCompletions();
-        fullInput();
-        gettersChangeNothing();
+        approxAccepts();
+        grammarAccepts();
+        approxLive();
+        nextMask();
         CHECK.end();
     }
 
-    private static void word(RegApprox x, String word, String want) {
-        CHECK.word(Given.word(x, word), word.isEmpty() ? "empty" : word, want);
+    private static Supplier<RegApprox> edit(String... rules) {
+        return () -> Given.entered(3, 3, rules);
     }
 
-    private static void beforeBuild() {
-        CHECK.word(new RegApprox(1, 1), "EDIT, no rules", "- - - -1");
-        RegApprox x = Given.entered(1, 1, "A->", "A->aA");
-        CHECK.word(x, "EDIT, the empty string derived", "- - - -1");
+    private static Supplier<RegApprox> built(String word, String... rules) {
+        return () -> Given.word(Given.built(3, 3, rules), word);
+    }
+
+    private static void answers(String call, Predicate<RegApprox> asked, boolean due, String word, String... rules) {
+        CHECK.due(String.join(", ", rules) + " w=" + word + ": " + call, asked.test(built(word, rules).get()), due);
+    }
+
+    private static void falseInEdit(String call, Predicate<RegApprox> asked) {
+        CHECK.says("In phase EDIT it answers false.");
+        CHECK.due("EDIT, no rules: " + call, asked.test(edit().get()), false);
+        CHECK.due("EDIT, the empty string derived: " + call, asked.test(edit("A->").get()), false);
+        RegApprox x = edit("A->", "A->a").get();
+        x.feed(0);
+        CHECK.due("EDIT, after a refused feed(0): " + call, asked.test(x), false);
         x.build();
-        CHECK.word(x, "the same one built", "approx grammar live a");
+        CHECK.due("the same one BUILT: " + call, asked.test(x), true);
     }
 
-    private static void notSelfEmbedding() {
-        RegApprox x = Given.built(2, 3, "A->aA", "A->Bc", "B->Bb", "B->a");
-        word(x, "", "- - live a");
-        word(x, "a", "- - live abc");
-        word(x, "aabb", "- - live bc");
-        word(x, "aabbc", "approx grammar live 0");
-        word(x, "ab", "- - live bc");
-        word(x, "ac", "approx grammar live 0");
-        word(x, "aba", "- - - 0");
-        RegApprox unit = Given.built(2, 2, "A->A", "A->B", "B->B", "B->b");
-        word(unit, "", "- - live b");
-        word(unit, "b", "approx grammar live 0");
-        word(unit, "bb", "- - - 0");
+    private static void changesNothing(String call, Predicate<RegApprox> asked, boolean dueBegun) {
+        CHECK.says("It changes nothing.");
+        Unchanged.by(CHECK, "EDIT: " + call, edit("A->", "A->aA"), x -> asked.test(x) ? 1 : 0, 0);
+        Unchanged.by(CHECK, call, built("acb", BRACKETS), x -> asked.test(x) ? 1 : 0, 1);
+        Unchanged.by(CHECK, "w full: " + call, built(TWELVE, "A->aAb", "A->"), x -> asked.test(x) ? 1 : 0, 1);
+        Unchanged.by(CHECK, "w dead: " + call, built("acba", BRACKETS), x -> asked.test(x) ? 1 : 0, 0);
+        Unchanged.by(CHECK, "w begun: " + call, built("aa", BRACKETS), x -> asked.test(x) ? 1 : 0, dueBegun ? 1 : 0);
     }
 
-    private static void selfEmbedding() {
-        RegApprox brackets = Given.built(1, 3, "A->aAb", "A->c");
-        word(brackets, "", "- - live ac");
-        word(brackets, "aa", "- - live ac");
-        word(brackets, "c", "approx grammar live b");
-        word(brackets, "aacb", "approx - live b");
-        word(brackets, "aacbb", "approx grammar live b");
-        word(brackets, "cbbb", "approx - live b");
-        word(brackets, "aacba", "- - - 0");
-        word(brackets, "b", "- - - 0");
-        RegApprox palindromes = Given.built(1, 3, "A->aAa", "A->bAb", "A->");
-        word(palindromes, "", "approx grammar live ab");
-        word(palindromes, "abba", "approx grammar live ab");
-        word(palindromes, "abb", "approx - live ab");
-        word(palindromes, "abc", "- - - 0");
-        RegApprox twice = Given.built(1, 2, "A->AaA", "A->b");
-        word(twice, "", "- - live b");
-        word(twice, "bab", "approx grammar live a");
-        word(twice, "ba", "- - live b");
-        word(twice, "bb", "- - - 0");
-        word(twice, "bababab", "approx grammar live a");
-        // A->aB, B'->cA', B->A, A'->bB', B->dB': after d come b and c by turns, c first, none of them due.
-        RegApprox pair = Given.built(2, 4, "A->aBc", "B->Ab", "B->d");
-        word(pair, "aad", "approx - live c");
-        word(pair, "ad", "approx - live c");
-        word(pair, "adc", "approx grammar live b");
-        word(pair, "adcb", "approx - live c");
-        word(pair, "aadcbc", "approx grammar live b");
-        word(pair, "aaaadc", "approx - live b");
-        word(pair, "adb", "- - - 0");
-        word(pair, "d", "- - - 0");
+    // ---- Promise 14 ----
+
+    private static void approxAccepts() {
+        Predicate<RegApprox> asked = RegApprox::approxAccepts;
+        CHECK.says("`approxAccepts()` answers true exactly when the phase is BUILT and w is in L2, the approximating "
+                + "language.");
+        answers("approxAccepts()", asked, true, "acb", BRACKETS);
+        answers("approxAccepts()", asked, true, "aac", BRACKETS);
+        answers("approxAccepts()", asked, true, "cb", BRACKETS);
+        answers("approxAccepts()", asked, false, "aa", BRACKETS);
+        answers("approxAccepts()", asked, false, "cc", BRACKETS);
+        answers("approxAccepts()", asked, false, "bc", BRACKETS);
+        answers("approxAccepts()", asked, true, "acbbbbbbbbbb", BRACKETS);
+        answers("approxAccepts()", asked, false, "acbbbbbbbbba", BRACKETS);
+
+        falseInEdit("approxAccepts()", asked);
+
+        CHECK.says("With w empty, it answers whether the empty string is in L2.");
+        answers("approxAccepts()", asked, false, "");
+        answers("approxAccepts()", asked, true, "", "A->");
+        answers("approxAccepts()", asked, false, "", "A->a", "B->");
+        answers("approxAccepts()", asked, false, "", "A->aB", "B->");
+        answers("approxAccepts()", asked, true, "", "A->BCB", "B->", "C->BB");
+        answers("approxAccepts()", asked, true, "", "A->aAb", "A->");
+        answers("approxAccepts()", asked, false, "", BRACKETS);
+        answers("approxAccepts()", asked, true, "", "A->BC", "B->A", "B->", "A->aAb");
+        RegApprox x = built("cc", "A->aAb", "A->").get();
+        x.clearInput();
+        CHECK.due("w cleared: approxAccepts()", x.approxAccepts(), true);
+
+        changesNothing("approxAccepts()", asked, false);
     }
 
-    private static void emptyLanguages() {
-        String[] nothing = {"A->aA", "A->aAb", "A->Aa", "A->A", "A->AA", "A->aB", "B->a", "A->BA"};
-        for (String rule : nothing) {
-            RegApprox x = Given.built(2, 2, rule);
-            word(x, "", "- - - 0");
-            word(x, "a", "- - - 0");
-            word(x, "ab", "- - - 0");
+    // ---- Promise 15 ----
+
+    private static void grammarAccepts() {
+        Predicate<RegApprox> asked = RegApprox::grammarAccepts;
+        CHECK.says("`grammarAccepts()` answers true exactly when the phase is BUILT and w is in L, the language of the "
+                + "grammar as entered.");
+        answers("grammarAccepts()", asked, true, "aacbb", BRACKETS);
+        answers("grammarAccepts()", asked, false, "aacb", BRACKETS);
+        answers("grammarAccepts()", asked, false, "aacbbb", BRACKETS);
+        answers("grammarAccepts()", asked, false, "acbc", BRACKETS);
+        answers("grammarAccepts()", asked, true, TWELVE, "A->aAb", "A->");
+        answers("grammarAccepts()", asked, false, "aaaaaabbbbba", "A->aAb", "A->");
+        answers("grammarAccepts()", asked, false, "aaaaaaabbbbb", "A->aAb", "A->");
+        answers("grammarAccepts()", asked, true, "abba", "A->aAa", "A->bAb", "A->");
+        answers("grammarAccepts()", asked, false, "abb", "A->aAa", "A->bAb", "A->");
+
+        falseInEdit("grammarAccepts()", asked);
+
+        CHECK.says("With w empty, it answers whether the empty string is in L.");
+        answers("grammarAccepts()", asked, false, "");
+        answers("grammarAccepts()", asked, true, "", "A->");
+        answers("grammarAccepts()", asked, false, "", "A->a", "B->");
+        answers("grammarAccepts()", asked, false, "", "A->aB", "B->");
+        answers("grammarAccepts()", asked, true, "", "A->BCB", "B->", "C->BB");
+        answers("grammarAccepts()", asked, true, "", "A->aAb", "A->");
+        answers("grammarAccepts()", asked, false, "", "A->BC", "B->A", "B->", "A->aAb");
+        RegApprox x = built("cc", "A->aAb", "A->").get();
+        x.clearInput();
+        CHECK.due("w cleared: grammarAccepts()", x.grammarAccepts(), true);
+
+        changesNothing("grammarAccepts()", asked, false);
+        acceptedByBoth();
+    }
+
+    private static void acceptedByBoth() {
+        CHECK.says("Since L is a subset of L2, whenever `grammarAccepts()` answers true, `approxAccepts()` answers true "
+                + "as well.");
+        for (String[] rules : GRAMMARS) {
+            everyWord(rules, x -> CHECK.due("grammarAccepts() without approxAccepts() of " + String.join(", ", rules),
+                    x.grammarAccepts() && !x.approxAccepts(), false));
         }
-        // L is empty, since C derives nothing; the rewriting cuts C off, so that L2 is a..ac.
-        RegApprox cut = Given.built(3, 3, "A->aBC", "B->Ab", "B->c");
-        word(cut, "", "- - live a");
-        word(cut, "a", "- - live ac");
-        word(cut, "aac", "approx - live 0");
-        word(cut, "aacb", "- - - 0");
-        // A token whose branch derives nothing does not keep w completable.
-        RegApprox branch = Given.built(2, 3, "A->aA", "A->bB", "A->c");
-        word(branch, "", "- - live ac");
-        word(branch, "b", "- - - 0");
-        word(branch, "aac", "approx grammar live 0");
-    }
-
-    private static void emptyStrings() {
-        RegApprox only = Given.built(1, 2, "A->");
-        word(only, "", "approx grammar live 0");
-        word(only, "a", "- - - 0");
-        RegApprox hidden = Given.built(3, 2, "A->BCB", "B->", "C->BB", "C->b");
-        word(hidden, "", "approx grammar live b");
-        word(hidden, "b", "approx grammar live 0");
-        word(hidden, "bb", "- - - 0");
-        RegApprox around = Given.built(2, 2, "A->BAB", "A->a", "B->", "B->b");
-        word(around, "", "- - live ab");
-        word(around, "bbab", "approx grammar live b");
-        word(around, "a", "approx grammar live b");
-        word(around, "aa", "- - - 0");
-        RegApprox all = Given.built(1, 2, "A->AA", "A->", "A->a");
-        word(all, "", "approx grammar live a");
-        word(all, "aaaaaaaa", "approx grammar live a");
-        word(all, "aab", "- - - 0");
-    }
-
-    private static void otherSets() {
-        // B's own set is rewritten too, and A keeps B unprimed: c stands for a..a c b..b.
-        RegApprox nested = Given.built(2, 4, "A->dAB", "A->B", "B->aBb", "B->c");
-        word(nested, "", "- - live acd");
-        word(nested, "c", "approx grammar live abc");
-        word(nested, "dcc", "approx grammar live abc");
-        word(nested, "dc", "approx - live abc");
-        word(nested, "acb", "approx grammar live abc");
-        word(nested, "acbb", "approx - live abc");
-        word(nested, "cd", "- - - 0");
-        word(nested, "ca", "- - live ac");
-        // A plain set over a rewritten one: two copies of it, each wide on its own.
-        RegApprox over = Given.built(2, 3, "A->BcB", "B->aBb", "B->");
-        word(over, "", "- - live abc");
-        word(over, "abc", "approx grammar live ab");
-        word(over, "c", "approx grammar live ab");
-        word(over, "abbcaab", "approx - live b");
-        word(over, "bca", "approx - live ab");
-        word(over, "cba", "- - - 0");
-        // Copies of a rule change nothing but the counts.
-        RegApprox copies = Given.built(1, 3, "A->aAb", "A->aAb", "A->c", "A->c");
-        word(copies, "acb", "approx grammar live b");
-    }
-
-    private static void longCompletions() {
-        // The one word has 64 tokens, more than w can ever hold.
-        RegApprox x = Given.built(3, 2, "A->BBBB", "B->CCCC", "C->aaaa");
-        StringBuilder word = new StringBuilder();
-        for (int i = 0; i <= 12; i++) {
-            word(x, word.toString(), "- - live a");
-            word.append('a');
+        CHECK.says("When `selfEmbedding()` answers false, G2 = G, so `approxAccepts()` and `grammarAccepts()` always give "
+                + "the same answer.");
+        for (String[] rules : GRAMMARS) {
+            if (!Given.built(3, 3, rules).selfEmbedding()) {
+                everyWord(rules, x -> CHECK.due("approxAccepts() of " + String.join(", ", rules), x.approxAccepts(),
+                        x.grammarAccepts()));
+            }
         }
-        word(x, "ab", "- - - 0");
+    }
+
+    /** All words of up to three tokens, and all that end in up to three after eight: lengths 8 to 11. */
+    private static void everyWord(String[] rules, Consumer<RegApprox> look) {
+        for (String begin : new String[] {"", "aaaaaaaa", "aaaacbbb", "aaaabbbb", "abababab"}) {
+            for (int number = 0; number < 40; number++) {
+                RegApprox x = built(begin, rules).get();
+                // The digits of the number to base 3, each digit 1 to 3: every word of up to 3 tokens once.
+                for (int rest = number; rest > 0; rest = (rest - 1) / 3) {
+                    x.feed((rest - 1) % 3);
+                }
+                look.accept(x);
+            }
+        }
+    }
+
+    // ---- Promise 16 ----
+
+    private static void approxLive() {
+        Predicate<RegApprox> asked = RegApprox::approxLive;
+        CHECK.says("`approxLive()` answers true exactly when the phase is BUILT and there is some finite string v");
+        answers("approxLive()", asked, true, "", BRACKETS);
+        answers("approxLive()", asked, true, "aaa", BRACKETS);
+        answers("approxLive()", asked, false, "b", BRACKETS);
+        answers("approxLive()", asked, false, "aacba", BRACKETS);
+        answers("approxLive()", asked, false, "");
+        answers("approxLive()", asked, false, "", "A->aA");
+        answers("approxLive()", asked, false, "a", "A->aA");
+        answers("approxLive()", asked, false, "b", "A->bB", "A->a");
+        answers("approxLive()", asked, true, "", "A->aBC", "B->Ab", "B->c");
+        answers("approxLive()", asked, false, "aacb", "A->aBC", "B->Ab", "B->c");
+
+        CHECK.says("(possibly empty");
+        answers("approxLive()", asked, true, "", "A->");
+        answers("approxLive()", asked, true, "abc", "A->abc");
+        answers("approxLive()", asked, false, "abca", "A->abc");
+        answers("approxLive()", asked, true, "aaaaaaaaaaaa", "A->BBBB", "B->aaa");
+
+        CHECK.says("of any length, with no bound from `MAX_INPUT`) such that w followed by v is in L2.");
+        longCompletions("A->BBB", "B->CCC", "C->DDD", "D->aaa");
+        longCompletions("A->BBBB", "B->CCCC", "C->aaaa");
+        longCompletions("A->BBBa", "B->aaaa");
+        answers("approxLive()", asked, false, "aaaaaaaaaaaa", "A->BBBa", "B->aaa");
+        answers("approxLive()", asked, false, "aaaaaaaaaaab", "A->BBBa", "B->aaaa");
+
+        falseInEdit("approxLive()", asked);
+
+        CHECK.says("Whenever `approxAccepts()` answers true, `approxLive()` answers true too (take v empty).");
+        for (String[] rules : GRAMMARS) {
+            everyWord(rules, x -> CHECK.due("approxAccepts() without approxLive() of " + String.join(", ", rules),
+                    x.approxAccepts() && !x.approxLive(), false));
+        }
+
+        changesNothing("approxLive()", asked, true);
+    }
+
+    /** The one word is longer than w can ever be. */
+    private static void longCompletions(String... rules) {
+        RegApprox x = Given.built(4, 2, rules);
+        for (int length = 0; length <= 12; length++) {
+            CHECK.word(Given.word(x, "a".repeat(length)), String.join(", ", rules) + ": a..", "- - live a");
+        }
+        CHECK.word(Given.word(x, "ab"), String.join(", ", rules) + ": ab", "- - - 0");
+    }
+
+    // ---- Promise 17 ----
+
+    private static void nextMask() {
+        CHECK.says("`nextMask()` answers `ERR_PHASE` in phase EDIT.");
+        CHECK.due("EDIT, no rules: nextMask()", edit().get().nextMask(), RegApprox.ERR_PHASE);
+        CHECK.due("EDIT: nextMask()", edit("A->aA", "A->").get().nextMask(), RegApprox.ERR_PHASE);
+
+        CHECK.says("Otherwise it answers the sum of 2 to the power t, over every terminal t in 0..T-1 for which some "
+                + "finite string v (possibly empty) makes w t v a string of L2.");
+        mask(0b101, "", BRACKETS);
+        mask(0b101, "aa", BRACKETS);
+        mask(0b010, "c", BRACKETS);
+        mask(0b010, "acbb", BRACKETS);
+        mask(0b100, "", "A->c");
+        mask(0b000, "c", "A->c");
+        mask(0b001, "", "A->a", "A->bB", "A->cB", "A->Bc", "C->c");
+        mask(0b101, "", "A->a", "A->bB", "A->cC", "C->");
+
+        bits();
+        fullInput();
+        nothingToComeNext();
+        deadInput();
+        sameAsFeeding();
+
+        CHECK.says("It changes nothing.");
+        Unchanged.by(CHECK, "EDIT: nextMask()", edit("A->", "A->aA"), x -> x.nextMask(), RegApprox.ERR_PHASE);
+        Unchanged.by(CHECK, "nextMask()", built("", BRACKETS), x -> x.nextMask(), 5);
+        Unchanged.by(CHECK, "nextMask()", built("acb", BRACKETS), x -> x.nextMask(), 2);
+        Unchanged.by(CHECK, "w dead: nextMask()", built("acba", BRACKETS), x -> x.nextMask(), 0);
+        Unchanged.by(CHECK, "w full: nextMask()", built(TWELVE, "A->aAb", "A->"), x -> x.nextMask(), 2);
+    }
+
+    private static void mask(int due, String word, String... rules) {
+        CHECK.due(String.join(", ", rules) + " w=" + word + ": nextMask()", built(word, rules).get().nextMask(), due);
+    }
+
+    private static void bits() {
+        CHECK.says("The answer is in 0..15, and no bit at a position T or above is ever set.");
+        for (int terminals = 1; terminals <= 4; terminals++) {
+            RegApprox x = new RegApprox(2, terminals);
+            x.rule(0);
+            x.rule(0);
+            x.nonterminal(1);
+            x.nonterminal(0);
+            for (int t = 0; t < terminals; t++) {
+                x.rule(1);
+                x.terminal(t);
+            }
+            x.build();
+            for (int length = 0; length <= 12; length++) {
+                CHECK.due("every token of " + terminals + ": nextMask()", x.nextMask(), (1 << terminals) - 1);
+                x.feed(length % terminals);
+            }
+        }
     }
 
     private static void fullInput() {
-        RegApprox twelve = Given.built(2, 2, "A->BBBB", "B->aaa");
-        word(twelve, "aaaaaaaaaaa", "- - live a");
-        word(twelve, "aaaaaaaaaaaa", "approx grammar live 0");
-        RegApprox thirteen = Given.built(3, 4, "A->BBBC", "B->aaa", "C->aaad");
-        word(thirteen, "aaaaaaaaaaaa", "- - live d");
-        word(thirteen, "aaaaaaaaaaab", "- - - 0");
-        RegApprox any = Given.built(2, 4, "A->BA", "A->", "B->a", "B->b", "B->c", "B->d");
-        word(any, "abcdabcdabcd", "approx grammar live abcd");
-        RegApprox pair = Given.built(1, 2, "A->aAb", "A->");
-        word(pair, "aaaaaabbbbbb", "approx grammar live b");
-        word(pair, "aaaaaabbbbba", "- - - 0");
-        word(pair, "aaaaaaaaaaaa", "approx - live ab");
+        CHECK.says("This holds even when w is full: the answer does not depend on `MAX_INPUT`.");
+        mask(0b010, TWELVE, "A->aAb", "A->");
+        mask(0b011, "aaaaaaaaaaaa", "A->aAb", "A->");
+        mask(0b000, "aaaaaaaaaaaa", "A->BBBB", "B->aaa");
+        mask(0b100, "aaaaaaaaaaaa", "A->BBBC", "B->aaa", "C->aaac");
+        mask(0b000, "aaaaaabbbbba", "A->aAb", "A->");
+        mask(0b111, "abcabcabcabc", "A->aA", "A->bA", "A->cA", "A->");
     }
 
-    private static void gettersChangeNothing() {
-        RegApprox x = Given.built(1, 3, "A->aAb", "A->c");
-        Given.word(x, "aacb");
-        for (int i = 0; i < 3; i++) {
-            CHECK.due("nextMask()", x.nextMask(), 2);
-            CHECK.due("approxLive()", x.approxLive(), true);
-            CHECK.due("grammarAccepts()", x.grammarAccepts(), false);
-            CHECK.due("approxAccepts()", x.approxAccepts(), true);
-            CHECK.due("inputLength()", x.inputLength(), 4);
-            CHECK.due("ruleCount()", x.ruleCount(), 2);
-            CHECK.due("transformedRuleCount()", x.transformedRuleCount(), 4);
+    private static void nothingToComeNext() {
+        CHECK.says("in phase BUILT `nextMask()` is 0 exactly when no one-token extension of w can be completed into a "
+                + "string of L2");
+        CHECK.word(built("", "A->").get(), "A->: empty", "approx grammar live 0");
+        CHECK.word(built("abc", "A->abc").get(), "A->abc: abc", "approx grammar live 0");
+        CHECK.word(built("").get(), "no rules: empty", "- - - 0");
+        CHECK.word(built("aac", "A->aBC", "B->Ab", "B->c").get(), "A->aBC, B->Ab | c: aac", "approx - live 0");
+    }
+
+    private static void deadInput() {
+        CHECK.says("in particular, in phase BUILT it is 0 whenever `approxLive()` answers false.");
+        for (String[] rules : GRAMMARS) {
+            everyWord(rules, x -> CHECK.due("approxLive() or nextMask() == 0 of " + String.join(", ", rules),
+                    x.approxLive() || x.nextMask() == 0, true));
         }
-        CHECK.due("feed(1) after the getters", x.feed(1), 5);
-        CHECK.due("grammarAccepts() after the getters", x.grammarAccepts(), true);
+        mask(0b000, "b", "A->aA", "A->");
+        mask(0b000, "baaaaaaaaaaa", "A->aA", "A->");
+    }
+
+    private static void sameAsFeeding() {
+        CHECK.says("In phase BUILT, when `inputLength()` < `MAX_INPUT`, for every t in 0..T-1, bit t of `nextMask()` is "
+                + "set exactly when `approxLive()` would answer true right after a call `feed(t)`.");
+        for (String[] rules : GRAMMARS) {
+            for (String word : new String[] {"", "a", "b", "c", "ab", "aac", "acbb", "aaaaaaaaaaa", "aaaaacbbbbb"}) {
+                int mask = built(word, rules).get().nextMask();
+                for (int t = 0; t < 3; t++) {
+                    RegApprox x = built(word, rules).get();
+                    x.feed(t);
+                    CHECK.due(String.join(", ", rules) + " w=" + word + ": approxLive() after feed(" + t + ")",
+                            x.approxLive(), (mask >> t & 1) == 1);
+                }
+            }
+        }
     }
 }
