@@ -1,4 +1,6 @@
+import java.util.List;
 import java.util.function.Supplier;
+import java.util.stream.Stream;
 
 /** Promises 3 and 4, sentence by sentence: what is said of both is tested of both. */
 public final class AppendTest {
@@ -8,21 +10,13 @@ public final class AppendTest {
     private static final int NO_RULE = RegApprox.ERR_NO_RULE;
 
     private static final Check CHECK = new Check("AppendTest");
-    private static final int N = 3;
-    private static final int T = 2;
-
-    private static final String[] RIGHT_SIDE_FULL = {"B->b", "A->aBab"};
-    private static final String[] SYMBOLS_FULL = {"A->aaaa", "B->bbbb", "A->aB", "C->b", "A->b"};
-    private static final String[] SYMBOLS_FULL_RULE_EMPTY = {"A->aaaa", "B->bbbb", "A->aCCb", "A->"};
-    private static final String[] BOTH_FULL = {"A->aaaa", "B->bbbb", "A->abBa"};
-
     private final boolean terminals;
     private final int bound;
     private final String name;
 
     private AppendTest(boolean terminals) {
         this.terminals = terminals;
-        bound = terminals ? T : N;
+        bound = terminals ? States.T : States.N;
         name = terminals ? "terminal" : "nonterminal";
     }
 
@@ -71,14 +65,6 @@ public final class AppendTest {
         Unchanged.by(CHECK, where + call(value), state, x -> append(x, value), due);
     }
 
-    private static Supplier<RegApprox> edit(String... rules) {
-        return () -> Given.entered(N, T, rules);
-    }
-
-    private static Supplier<RegApprox> built(String... rules) {
-        return () -> Given.built(N, T, rules);
-    }
-
     private static void atTheEnd() {
         CHECK.says("`terminal(int t)` appends terminal t at the end of the current rule's right side.");
         RegApprox x = Given.built(1, 4, "A->abcd");
@@ -93,7 +79,7 @@ public final class AppendTest {
 
     private void inPhaseBuilt() {
         CHECK.says("1. phase BUILT: answers `ERR_PHASE`.");
-        RegApprox x = built("A->a").get();
+        RegApprox x = States.built("", "A->a").get();
         for (int value = 0; value < bound; value++) {
             answers("BUILT: ", x, value, PHASE);
         }
@@ -105,20 +91,20 @@ public final class AppendTest {
 
     private void withoutRule() {
         CHECK.says("2. no rule has been started: answers `ERR_NO_RULE`.");
-        RegApprox x = edit().get();
+        RegApprox x = States.edit().get();
         for (int value = 0; value < bound; value++) {
             answers("no rule: ", x, value, NO_RULE);
         }
-        x.rule(N);
+        x.rule(States.N);
         answers("a refused rule alone: ", x, 0, NO_RULE);
-        x.rule(N - 1);
+        x.rule(States.N - 1);
         answers("a rule: ", x, 0, 1);
     }
 
     private void tooSmall() {
         CHECK.says(terminals ? "3. t < 0 or t >= T: answers `ERR_RANGE`."
                 : "condition 3 is: a < 0 or a >= N, which answers `ERR_RANGE`.");
-        RegApprox x = edit("A->").get();
+        RegApprox x = States.edit("A->").get();
         answers("", x, -1, RANGE);
         answers("", x, Integer.MIN_VALUE, RANGE);
         answers("", x, 0, 1);
@@ -151,7 +137,7 @@ public final class AppendTest {
 
     private void rightSideFull() {
         CHECK.says("4. the current rule already has `MAX_RHS` symbols");
-        RegApprox x = edit("B->b", "A->aBa").get();
+        RegApprox x = States.edit("B->b", "A->aBa").get();
         answers("a fourth, ", x, 0, 4);
         for (int value = 0; value < bound; value++) {
             answers("a fifth, ", x, value, FULL);
@@ -162,19 +148,19 @@ public final class AppendTest {
 
     private void symbolsFull() {
         CHECK.says("or all rules together already have `MAX_SYMBOLS` symbols: answers `ERR_FULL`.");
-        RegApprox eleven = edit("A->aaaa", "B->bbbb", "A->aB", "C->b").get();
+        RegApprox eleven = States.edit("A->aaaa", "B->bbbb", "A->aB", "C->b").get();
         eleven.rule(0);
         answers("a twelfth, ", eleven, 0, 1);
         for (int value = 0; value < bound; value++) {
             answers("a thirteenth, ", eleven, value, FULL);
         }
-        answers("a thirteenth, to an empty rule, ", edit(SYMBOLS_FULL_RULE_EMPTY).get(), 0, FULL);
+        answers("a thirteenth, to an empty rule, ", States.edit(States.SYMBOLS_FULL[0]).get(), 0, FULL);
     }
 
     private void bothFull() {
         CHECK.says("4. the current rule already has `MAX_RHS` symbols, or all rules together already have `MAX_SYMBOLS` "
                 + "symbols: answers `ERR_FULL`.");
-        RegApprox x = edit(BOTH_FULL).get();
+        RegApprox x = States.edit(States.BOTH_FULL[0]).get();
         answers("a fifth and thirteenth, ", x, 0, FULL);
         CHECK.due("rule(0)", x.rule(0), 3);
         answers("a first and thirteenth, ", x, 0, FULL);
@@ -182,7 +168,7 @@ public final class AppendTest {
 
     private void phaseBeforeNoRule() {
         order();
-        RegApprox x = built().get();
+        RegApprox x = States.built("").get();
         answers("BUILT, no rule: ", x, 0, PHASE);
         answers("BUILT, no rule: ", x, -1, PHASE);
         answers("BUILT, no rule: ", x, bound, PHASE);
@@ -190,7 +176,7 @@ public final class AppendTest {
 
     private void phaseBeforeRange() {
         order();
-        RegApprox x = built("A->a").get();
+        RegApprox x = States.built("", "A->a").get();
         for (int far : Given.FAR) {
             answers("BUILT: ", x, far, PHASE);
         }
@@ -199,15 +185,15 @@ public final class AppendTest {
 
     private void phaseBeforeFull() {
         order();
-        answers("BUILT, right side full: ", built(RIGHT_SIDE_FULL).get(), 0, PHASE);
-        answers("BUILT, symbols full: ", built(SYMBOLS_FULL).get(), 0, PHASE);
-        answers("BUILT, both full: ", built(BOTH_FULL).get(), 0, PHASE);
-        answers("BUILT, both full: ", built(BOTH_FULL).get(), bound, PHASE);
+        answers("BUILT, right side full: ", States.built("", States.RIGHT_SIDE_FULL[0]).get(), 0, PHASE);
+        answers("BUILT, symbols full: ", States.built("", States.SYMBOLS_FULL[0]).get(), 0, PHASE);
+        answers("BUILT, both full: ", States.built("", States.BOTH_FULL[0]).get(), 0, PHASE);
+        answers("BUILT, both full: ", States.built("", States.BOTH_FULL[0]).get(), bound, PHASE);
     }
 
     private void noRuleBeforeRange() {
         order();
-        RegApprox x = edit().get();
+        RegApprox x = States.edit().get();
         for (int far : Given.FAR) {
             answers("no rule: ", x, far, NO_RULE);
         }
@@ -216,9 +202,8 @@ public final class AppendTest {
 
     private void rangeBeforeFull() {
         order();
-        String[][] full = {RIGHT_SIDE_FULL, SYMBOLS_FULL, SYMBOLS_FULL_RULE_EMPTY, BOTH_FULL};
-        for (String[] rules : full) {
-            RegApprox x = edit(rules).get();
+        for (String[] rules : full()) {
+            RegApprox x = States.edit(rules).get();
             answers("full: ", x, -1, RANGE);
             answers("full: ", x, bound, RANGE);
             for (int far : Given.FAR) {
@@ -236,7 +221,7 @@ public final class AppendTest {
     private void answersTheLength() {
         CHECK.says(terminals ? "the call answers the new length of the current right side (1..4)."
                 : "On success it answers the new length of the current right side (1..4).");
-        RegApprox x = edit().get();
+        RegApprox x = States.edit().get();
         for (int rule = 0; rule < 3; rule++) {
             x.rule(rule);
             for (int length = 1; length <= 4; length++) {
@@ -245,46 +230,47 @@ public final class AppendTest {
         }
     }
 
+    private static List<String[]> full() {
+        return Stream.of(States.RIGHT_SIDE_FULL, States.SYMBOLS_FULL, States.BOTH_FULL).flatMap(Stream::of).toList();
+    }
+
     private void refusedForNoRuleChangesNothing() {
         refusedChangesNothing();
         for (int value : new int[] {-1, 0, bound - 1, bound}) {
-            unchanged("no rule: ", edit(), value, NO_RULE);
+            unchanged("no rule: ", States.edit(), value, NO_RULE);
         }
     }
 
     private void refusedForRangeChangesNothing() {
         refusedChangesNothing();
-        String[][] states = {{"A->"}, {"A->aBa"}, {"B->b", "A->a"}, RIGHT_SIDE_FULL, SYMBOLS_FULL, BOTH_FULL};
-        for (String[] rules : states) {
+        for (String[] rules : States.grammars()) {
             for (int value : new int[] {Integer.MIN_VALUE, -1, bound, Integer.MAX_VALUE}) {
-                unchanged("", edit(rules), value, RANGE);
+                unchanged("", States.edit(rules), value, rules.length == 0 ? NO_RULE : RANGE);
             }
         }
     }
 
     private void refusedForFullChangesNothing() {
         refusedChangesNothing();
-        String[][] states = {RIGHT_SIDE_FULL, SYMBOLS_FULL, SYMBOLS_FULL_RULE_EMPTY, BOTH_FULL};
-        for (String[] rules : states) {
+        for (String[] rules : full()) {
             for (int value = 0; value < bound; value++) {
-                unchanged("full: ", edit(rules), value, FULL);
+                unchanged("full: ", States.edit(rules), value, FULL);
             }
         }
+        String[] eightRules = States.EIGHT_RULES[3];
+        unchanged("twelve symbols in eight rules: ", States.edit(eightRules), 0, FULL);
     }
 
     private void refusedInBuiltChangesNothing() {
         refusedChangesNothing();
-        String[][] states = {{}, {"A->"}, {"A->aAb", "A->b"}, {"A->aAb", "A->"}, RIGHT_SIDE_FULL, SYMBOLS_FULL};
-        for (String[] rules : states) {
-            for (int value : new int[] {-1, 0, bound - 1, bound}) {
-                unchanged("BUILT: ", built(rules), value, PHASE);
-            }
+        for (int value : new int[] {0, bound - 1, bound}) {
+            Unchanged.inBuilt(CHECK, call(value), x -> append(x, value), PHASE);
         }
     }
 
     private void refusedSymbolsAreNotCounted() {
         refusedChangesNothing();
-        RegApprox x = edit().get();
+        RegApprox x = States.edit().get();
         for (int rule = 0; rule < 3; rule++) {
             answers("before rule " + rule + ", ", x, 0, rule == 0 ? NO_RULE : FULL);
             x.rule(0);

@@ -1,10 +1,10 @@
-import java.util.function.Supplier;
-
 /** Promises 2 and 5, sentence by sentence. */
 public final class EntryTest {
     private static final int PHASE = RegApprox.ERR_PHASE;
     private static final int RANGE = RegApprox.ERR_RANGE;
     private static final int FULL = RegApprox.ERR_FULL;
+
+    private static final String[] EIGHT = States.EIGHT_RULES[0];
 
     private static final Check CHECK = new Check("EntryTest");
 
@@ -32,16 +32,6 @@ public final class EntryTest {
         countChangesNothing();
         CHECK.end();
     }
-
-    private static Supplier<RegApprox> edit(String... rules) {
-        return () -> Given.entered(3, 2, rules);
-    }
-
-    private static Supplier<RegApprox> built(String... rules) {
-        return () -> Given.built(3, 2, rules);
-    }
-
-    private static final String[] EIGHT = {"A->aA", "B->", "C->b", "A->C", "A->C", "B->", "C->", "A->ab"};
 
     // ---- Promise 2 ----
 
@@ -129,7 +119,7 @@ public final class EntryTest {
 
     private static void phaseBeforeRange() {
         CHECK.says("The conditions are examined in this order, and the first that holds decides the answer:");
-        RegApprox x = built("A->a").get();
+        RegApprox x = States.built("", "A->a").get();
         CHECK.due("BUILT: rule(-1)", x.rule(-1), PHASE);
         CHECK.due("BUILT: rule(3) of 3", x.rule(3), PHASE);
         for (int far : Given.FAR) {
@@ -139,7 +129,7 @@ public final class EntryTest {
 
     private static void phaseBeforeFull() {
         CHECK.says("The conditions are examined in this order, and the first that holds decides the answer:");
-        RegApprox x = built(EIGHT).get();
+        RegApprox x = States.built("", EIGHT).get();
         CHECK.due("BUILT, 8 rules: rule(0)", x.rule(0), PHASE);
         CHECK.due("BUILT, 8 rules: rule(3) of 3", x.rule(3), PHASE);
         CHECK.due("BUILT, 8 rules: rule(-1)", x.rule(-1), PHASE);
@@ -147,7 +137,7 @@ public final class EntryTest {
 
     private static void rangeBeforeFull() {
         CHECK.says("The conditions are examined in this order, and the first that holds decides the answer:");
-        RegApprox x = edit(EIGHT).get();
+        RegApprox x = States.edit(EIGHT).get();
         CHECK.due("8 rules: rule(-1)", x.rule(-1), RANGE);
         CHECK.due("8 rules: rule(3) of 3", x.rule(3), RANGE);
         for (int far : Given.FAR) {
@@ -170,28 +160,25 @@ public final class EntryTest {
 
     private static void refusedForRangeChangesNothing() {
         CHECK.says("When the call is refused nothing changes:");
-        for (int lhs : new int[] {Integer.MIN_VALUE, -1, 3, 5, Integer.MAX_VALUE}) {
-            Unchanged.by(CHECK, "rule(" + lhs + "), none started", edit(), x -> x.rule(lhs), RANGE);
-            Unchanged.by(CHECK, "rule(" + lhs + "), one empty", edit("A->"), x -> x.rule(lhs), RANGE);
-            Unchanged.by(CHECK, "rule(" + lhs + "), two", edit("A->aB", "B->bC"), x -> x.rule(lhs), RANGE);
-            Unchanged.by(CHECK, "rule(" + lhs + "), eight", edit(EIGHT), x -> x.rule(lhs), RANGE);
+        for (int lhs : new int[] {Integer.MIN_VALUE, -1, 3, Integer.MAX_VALUE}) {
+            Unchanged.inEdit(CHECK, "rule(" + lhs + ")", x -> x.rule(lhs), RANGE);
         }
     }
 
     private static void refusedForFullChangesNothing() {
         CHECK.says("When the call is refused nothing changes:");
-        for (int lhs = 0; lhs < 3; lhs++) {
-            int given = lhs;
-            Unchanged.by(CHECK, "a ninth rule(" + lhs + ")", edit(EIGHT), x -> x.rule(given), FULL);
+        for (String[] rules : States.EIGHT_RULES) {
+            for (int lhs = 0; lhs < 3; lhs++) {
+                int given = lhs;
+                Unchanged.by(CHECK, "a ninth rule(" + lhs + ")", States.edit(rules), x -> x.rule(given), FULL);
+            }
         }
     }
 
     private static void refusedInBuiltChangesNothing() {
         CHECK.says("When the call is refused nothing changes:");
-        for (int lhs : new int[] {-1, 0, 1, 2, 3}) {
-            Unchanged.by(CHECK, "BUILT: rule(" + lhs + "), none", built(), x -> x.rule(lhs), PHASE);
-            Unchanged.by(CHECK, "BUILT: rule(" + lhs + "), one", built("A->aAb"), x -> x.rule(lhs), PHASE);
-            Unchanged.by(CHECK, "BUILT: rule(" + lhs + "), eight", built(EIGHT), x -> x.rule(lhs), PHASE);
+        for (int lhs : new int[] {-1, 0, 2, 3}) {
+            Unchanged.inBuilt(CHECK, "rule(" + lhs + ")", x -> x.rule(lhs), PHASE);
         }
     }
 
@@ -287,9 +274,6 @@ public final class EntryTest {
 
     private static void countChangesNothing() {
         CHECK.says("It changes nothing.");
-        Unchanged.by(CHECK, "ruleCount()", edit(), x -> x.ruleCount(), 0);
-        Unchanged.by(CHECK, "ruleCount()", edit("A->aA", "B->a"), x -> x.ruleCount(), 2);
-        Unchanged.by(CHECK, "ruleCount()", edit(EIGHT), x -> x.ruleCount(), 8);
-        Unchanged.by(CHECK, "BUILT: ruleCount()", built("A->aAb", "A->"), x -> x.ruleCount(), 2);
+        Unchanged.always(CHECK, "ruleCount()", x -> x.ruleCount());
     }
 }

@@ -102,6 +102,17 @@ public final class GrammarTest {
         RegApprox circle = Given.built(3, 2, "A->B", "B->C", "C->A", "C->b");
         word(circle, "b", "approx grammar live 0");
         word(circle, "bb", "- - - 0");
+        // The word falls apart in two ways, and only the shorter, or only the longer beginning leads to its end.
+        RegApprox shorter = Given.built(3, 3, "A->BC", "B->a", "B->ab", "C->bc");
+        word(shorter, "abc", "approx grammar live 0");
+        word(shorter, "ab", "- - live bc");
+        RegApprox longer = Given.built(3, 3, "A->BC", "B->a", "B->ab", "C->cb");
+        word(longer, "abcb", "approx grammar live 0");
+        word(longer, "ab", "- - live c");
+        RegApprox between = Given.built(3, 3, "A->BbC", "B->a", "B->ab", "C->bc");
+        word(between, "abbc", "approx grammar live 0");
+        word(between, "abbbc", "approx grammar live 0");
+        word(between, "abb", "- - live bc");
         RegApprox doubled = Given.built(6, 1, "A->BB", "B->CC", "C->DD", "D->EE", "E->FF", "F->", "F->a");
         for (int tokens = 0; tokens <= 12; tokens++) {
             word(doubled, "a".repeat(tokens), "approx grammar live a");
@@ -291,6 +302,15 @@ public final class GrammarTest {
         word(x, "cdcdbb", "approx - live b");
         word(x, "bc", "- - - 0");
         word(x, "cdcdc", "- - - 0");
+        // A rule as long as rules get, with A' as its fifth symbol, between others.
+        RegApprox longest = Given.built(1, 4, "A->d", "A->cdcd", "A->aAb", "A->cccc");
+        word(longest, "", "- - live acd");
+        word(longest, "cdcd", "approx grammar live b");
+        word(longest, "cccc", "approx grammar live b");
+        word(longest, "d", "approx grammar live b");
+        word(longest, "acdcdb", "approx grammar live b");
+        word(longest, "accccbb", "approx - live b");
+        word(longest, "cdcda", "- - - 0");
     }
 
     private static void someMembers() {

@@ -31,10 +31,6 @@ public final class InputTest {
         CHECK.end();
     }
 
-    private static Supplier<RegApprox> edit(String... rules) {
-        return () -> Given.entered(3, 2, rules);
-    }
-
     private static Supplier<RegApprox> pairs(String word) {
         return () -> Given.word(Given.built(3, 2, "A->aAb", "A->B", "B->"), word);
     }
@@ -54,11 +50,10 @@ public final class InputTest {
 
     private static void feedInEdit() {
         CHECK.says("1. phase EDIT: answers `ERR_PHASE`.");
-        CHECK.due("EDIT, no rules: feed(0)", edit().get().feed(0), PHASE);
-        CHECK.due("EDIT: feed(0)", edit("A->a").get().feed(0), PHASE);
-        CHECK.due("EDIT: feed(1)", edit("A->a").get().feed(1), PHASE);
-        Unchanged.by(CHECK, "EDIT, no rules: feed(0)", edit(), x -> x.feed(0), PHASE);
-        Unchanged.by(CHECK, "EDIT: feed(1)", edit("A->aAb", "A->"), x -> x.feed(1), PHASE);
+        CHECK.due("EDIT, no rules: feed(0)", States.edit().get().feed(0), PHASE);
+        CHECK.due("EDIT: feed(0)", States.edit("A->a").get().feed(0), PHASE);
+        CHECK.due("EDIT: feed(1)", States.edit("A->a").get().feed(1), PHASE);
+        Unchanged.inEdit(CHECK, "feed(0)", x -> x.feed(0), PHASE);
     }
 
     private static void tokenTooSmall() {
@@ -95,9 +90,9 @@ public final class InputTest {
     private static void phaseBeforeRange() {
         CHECK.says("The conditions are examined in this order:");
         for (int far : Given.FAR) {
-            CHECK.due("EDIT: feed(" + far + ")", edit("A->a").get().feed(far), PHASE);
+            CHECK.due("EDIT: feed(" + far + ")", States.edit("A->a").get().feed(far), PHASE);
         }
-        CHECK.due("EDIT: feed(2) of 2", edit("A->a").get().feed(2), PHASE);
+        CHECK.due("EDIT: feed(2) of 2", States.edit("A->a").get().feed(2), PHASE);
     }
 
     private static void rangeBeforeFull() {
@@ -155,13 +150,16 @@ public final class InputTest {
 
     private static void refusedFeedLeavesInput() {
         CHECK.says("A refused call leaves w as it was.");
-        for (String word : new String[] {"", "a", "aab", "ba", "aaaaaabbbbb", TWELVE, "bbbbbbbbbbbb"}) {
-            for (int t : new int[] {Integer.MIN_VALUE, -1, 2, 3, Integer.MAX_VALUE}) {
-                Unchanged.by(CHECK, "feed(" + t + ") to " + word, pairs(word), x -> x.feed(t), RANGE);
+        for (int t : new int[] {Integer.MIN_VALUE, -1, 2, Integer.MAX_VALUE}) {
+            Unchanged.inBuilt(CHECK, "feed(" + t + ")", x -> x.feed(t), RANGE);
+            Unchanged.inEdit(CHECK, "feed(" + t + ")", x -> x.feed(t), PHASE);
+        }
+        for (String[] rules : States.grammars()) {
+            for (String word : new String[] {TWELVE, "aaaaaaaaaaaa", "bbbbbbbbbbbb"}) {
+                Unchanged.by(CHECK, "feed(0) to " + word, States.built(word, rules), x -> x.feed(0), FULL);
+                Unchanged.by(CHECK, "feed(1) to " + word, States.built(word, rules), x -> x.feed(1), FULL);
             }
         }
-        Unchanged.by(CHECK, "feed(0) to a full w", pairs(TWELVE), x -> x.feed(0), FULL);
-        Unchanged.by(CHECK, "feed(1) to a full w", pairs("aaaaaaaaaaaa"), x -> x.feed(1), FULL);
     }
 
     // ---- Promise 12 ----
@@ -178,10 +176,8 @@ public final class InputTest {
 
     private static void clearInEdit() {
         CHECK.says("It is refused in phase EDIT, where it answers `ERR_PHASE` and changes nothing.");
-        Unchanged.by(CHECK, "EDIT, no rules: clearInput()", edit(), x -> x.clearInput(), PHASE);
-        Unchanged.by(CHECK, "EDIT: clearInput()", edit("A->"), x -> x.clearInput(), PHASE);
-        Unchanged.by(CHECK, "EDIT: clearInput()", edit("B->b", "A->aBa"), x -> x.clearInput(), PHASE);
-        RegApprox x = edit("A->a").get();
+        Unchanged.inEdit(CHECK, "clearInput()", x -> x.clearInput(), PHASE);
+        RegApprox x = States.edit("A->a").get();
         CHECK.due("EDIT: clearInput()", x.clearInput(), PHASE);
         CHECK.due("EDIT: terminal(1) after it", x.terminal(1), 2);
         CHECK.due("EDIT: ruleCount() after it", x.ruleCount(), 1);
@@ -218,13 +214,13 @@ public final class InputTest {
             CHECK.due("rule(0) after clearInput()", x.rule(0), PHASE);
             CHECK.due("build() after clearInput()", x.build(), PHASE);
         }
-        Unchanged.by(CHECK, "clearInput() of an empty w", pairs(""), x -> x.clearInput(), 0);
-        Supplier<RegApprox> cleared = () -> {
-            RegApprox x = pairs(TWELVE).get();
-            x.clearInput();
-            return x;
-        };
-        Unchanged.by(CHECK, "clearInput() once more", cleared, x -> x.clearInput(), 0);
+        for (String[] rules : States.grammars()) {
+            Unchanged.by(CHECK, "clearInput() of an empty w", States.built("", rules), x -> x.clearInput(), 0);
+            for (String word : States.WORDS) {
+                Unchanged.by(CHECK, "feeding " + word + " and clearInput()", States.built("", rules),
+                        x -> Given.word(x, word).clearInput(), 0);
+            }
+        }
     }
 
     // ---- Promise 13 ----
@@ -258,9 +254,6 @@ public final class InputTest {
 
     private static void lengthChangesNothing() {
         CHECK.says("It changes nothing.");
-        Unchanged.by(CHECK, "EDIT: inputLength()", edit("A->a"), x -> x.inputLength(), 0);
-        Unchanged.by(CHECK, "inputLength()", pairs(""), x -> x.inputLength(), 0);
-        Unchanged.by(CHECK, "inputLength()", pairs("aab"), x -> x.inputLength(), 3);
-        Unchanged.by(CHECK, "inputLength()", pairs(TWELVE), x -> x.inputLength(), 12);
+        Unchanged.always(CHECK, "inputLength()", x -> x.inputLength());
     }
 }

@@ -1,6 +1,4 @@
 import java.util.function.IntUnaryOperator;
-import java.util.function.Supplier;
-import java.util.function.ToIntFunction;
 
 /** "Phases and general behaviour", sentence by sentence. */
 public final class PhasesTest {
@@ -8,9 +6,6 @@ public final class PhasesTest {
     private static final int RANGE = RegApprox.ERR_RANGE;
     private static final int FULL = RegApprox.ERR_FULL;
     private static final int NO_RULE = RegApprox.ERR_NO_RULE;
-
-    private static final String[] TWELVE_SYMBOLS = {"A->aAb", "A->aB", "B->bBaB", "B->", "C->abc"};
-    private static final String[] EIGHT_RULES = {"A->aAb", "A->", "B->", "C->", "B->", "C->", "B->", "A->c"};
 
     private static final Check CHECK = new Check("PhasesTest");
 
@@ -20,25 +15,16 @@ public final class PhasesTest {
         refusedInEdit();
         refusedInBuilt();
         refusedAmongTaken();
-        gettersInEdit();
-        gettersInBuilt();
+        getters();
         anyInt();
         CHECK.end();
-    }
-
-    private static Supplier<RegApprox> edit(String... rules) {
-        return () -> Given.entered(3, 3, rules);
-    }
-
-    private static Supplier<RegApprox> built(String word, String... rules) {
-        return () -> Given.word(Given.built(3, 3, rules), word);
     }
 
     private static void freshIsEdit() {
         CHECK.says("A fresh object is in phase EDIT.");
         inEdit(new RegApprox(3, 3));
         inEdit(new RegApprox(Integer.MIN_VALUE, Integer.MAX_VALUE));
-        inEdit(edit(TWELVE_SYMBOLS).get());
+        inEdit(States.edit("A->aAb", "A->bB", "B->a").get());
     }
 
     private static void inEdit(RegApprox x) {
@@ -54,12 +40,12 @@ public final class PhasesTest {
 
     private static void neverBackToEdit() {
         CHECK.says("`build()` moves it to phase BUILT, and it never returns to EDIT.");
-        for (String[] rules : new String[][] {{}, {"A->"}, TWELVE_SYMBOLS, EIGHT_RULES}) {
-            RegApprox x = edit(rules).get();
+        for (String[] rules : States.grammars()) {
+            RegApprox x = States.edit(rules).get();
             CHECK.due("build() > 0", x.build() > 0, true);
             for (int i = 0; i < 15; i++) {
                 inBuilt(x);
-                x.feed(i % 4);
+                x.feed(i % 3);
             }
             x.clearInput();
             inBuilt(x);
@@ -79,48 +65,47 @@ public final class PhasesTest {
         CHECK.due("BUILT: nextMask() >= 0", x.nextMask() >= 0, true);
     }
 
-    private static void refused(String what, Supplier<RegApprox> state, ToIntFunction<RegApprox> call, int due) {
-        Unchanged.by(CHECK, what, state, call, due);
-    }
-
     private static void refusedInEdit() {
         CHECK.says("A call that is refused (answers one of the `ERR_` codes) changes nothing.");
-        for (String[] rules : new String[][] {{}, {"A->"}, {"A->aAb", "B->c"}, TWELVE_SYMBOLS, EIGHT_RULES}) {
-            Supplier<RegApprox> state = edit(rules);
-            int outside = rules.length == 0 ? NO_RULE : RANGE;
-            refused("rule(3)", state, x -> x.rule(3), RANGE);
-            refused("terminal(3)", state, x -> x.terminal(3), outside);
-            refused("nonterminal(-1)", state, x -> x.nonterminal(-1), outside);
-            refused("EDIT: setOf(0)", state, x -> x.setOf(0), PHASE);
-            refused("EDIT: setKind(3)", state, x -> x.setKind(3), PHASE);
-            refused("EDIT: transformedRuleCount()", state, x -> x.transformedRuleCount(), PHASE);
-            refused("EDIT: feed(0)", state, x -> x.feed(0), PHASE);
-            refused("EDIT: feed(3)", state, x -> x.feed(3), PHASE);
-            refused("EDIT: clearInput()", state, x -> x.clearInput(), PHASE);
-            refused("EDIT: nextMask()", state, x -> x.nextMask(), PHASE);
+        Unchanged.inEdit(CHECK, "rule(3)", x -> x.rule(3), RANGE);
+        Unchanged.inEdit(CHECK, "setOf(0)", x -> x.setOf(0), PHASE);
+        Unchanged.inEdit(CHECK, "setKind(3)", x -> x.setKind(3), PHASE);
+        Unchanged.inEdit(CHECK, "transformedRuleCount()", x -> x.transformedRuleCount(), PHASE);
+        Unchanged.inEdit(CHECK, "feed(0)", x -> x.feed(0), PHASE);
+        Unchanged.inEdit(CHECK, "feed(2)", x -> x.feed(2), PHASE);
+        Unchanged.inEdit(CHECK, "clearInput()", x -> x.clearInput(), PHASE);
+        Unchanged.inEdit(CHECK, "nextMask()", x -> x.nextMask(), PHASE);
+        Unchanged.by(CHECK, "terminal(0)", States.edit(), x -> x.terminal(0), NO_RULE);
+        Unchanged.by(CHECK, "nonterminal(0)", States.edit(), x -> x.nonterminal(0), NO_RULE);
+        for (String[] rules : States.ROOM) {
+            Unchanged.by(CHECK, "terminal(2)", States.edit(rules), x -> x.terminal(2), RANGE);
+            Unchanged.by(CHECK, "nonterminal(-1)", States.edit(rules), x -> x.nonterminal(-1), RANGE);
         }
-        refused("a thirteenth terminal(0)", edit(TWELVE_SYMBOLS), x -> x.terminal(0), FULL);
-        refused("a thirteenth nonterminal(0)", edit(TWELVE_SYMBOLS), x -> x.nonterminal(0), FULL);
-        refused("a fifth terminal(0)", edit("A->aAbc"), x -> x.terminal(0), FULL);
-        refused("a fifth nonterminal(0)", edit("A->aAbc"), x -> x.nonterminal(0), FULL);
-        refused("a ninth rule(0)", edit(EIGHT_RULES), x -> x.rule(0), FULL);
+        for (String[] rules : States.SYMBOLS_FULL) {
+            Unchanged.by(CHECK, "a thirteenth terminal(0)", States.edit(rules), x -> x.terminal(0), FULL);
+            Unchanged.by(CHECK, "a thirteenth nonterminal(0)", States.edit(rules), x -> x.nonterminal(0), FULL);
+        }
+        for (String[] rules : States.RIGHT_SIDE_FULL) {
+            Unchanged.by(CHECK, "a fifth terminal(0)", States.edit(rules), x -> x.terminal(0), FULL);
+            Unchanged.by(CHECK, "a fifth nonterminal(0)", States.edit(rules), x -> x.nonterminal(0), FULL);
+        }
+        for (String[] rules : States.EIGHT_RULES) {
+            Unchanged.by(CHECK, "a ninth rule(0)", States.edit(rules), x -> x.rule(0), FULL);
+        }
     }
 
     private static void refusedInBuilt() {
         CHECK.says("A call that is refused (answers one of the `ERR_` codes) changes nothing.");
-        for (String word : new String[] {"", "aac", "ba", "aaaaaabbbbbb"}) {
-            for (String[] rules : new String[][] {{}, TWELVE_SYMBOLS, EIGHT_RULES}) {
-                Supplier<RegApprox> state = built(word, rules);
-                refused("BUILT: rule(0)", state, x -> x.rule(0), PHASE);
-                refused("BUILT: terminal(0)", state, x -> x.terminal(0), PHASE);
-                refused("BUILT: nonterminal(0)", state, x -> x.nonterminal(0), PHASE);
-                refused("BUILT: build()", state, x -> x.build(), PHASE);
-                refused("BUILT: setOf(3)", state, x -> x.setOf(3), RANGE);
-                refused("BUILT: setKind(-1)", state, x -> x.setKind(-1), RANGE);
-                refused("BUILT: feed(3)", state, x -> x.feed(3), RANGE);
-            }
+        Unchanged.inBuilt(CHECK, "rule(0)", x -> x.rule(0), PHASE);
+        Unchanged.inBuilt(CHECK, "terminal(0)", x -> x.terminal(0), PHASE);
+        Unchanged.inBuilt(CHECK, "nonterminal(0)", x -> x.nonterminal(0), PHASE);
+        Unchanged.inBuilt(CHECK, "build()", x -> x.build(), PHASE);
+        Unchanged.inBuilt(CHECK, "setOf(3)", x -> x.setOf(3), RANGE);
+        Unchanged.inBuilt(CHECK, "setKind(-1)", x -> x.setKind(-1), RANGE);
+        Unchanged.inBuilt(CHECK, "feed(2)", x -> x.feed(2), RANGE);
+        for (String[] rules : States.grammars()) {
+            Unchanged.by(CHECK, "w full: feed(0)", States.built("aaaaaabbbbbb", rules), x -> x.feed(0), FULL);
         }
-        refused("BUILT, w full: feed(0)", built("aaaaaabbbbbb", EIGHT_RULES), x -> x.feed(0), FULL);
     }
 
     /** A whole run with every kind of refused call before each taken one. */
@@ -167,20 +152,19 @@ public final class PhasesTest {
         }
     }
 
-    private static void gettersInEdit() {
+    private static void getters() {
         CHECK.says("Getters never change anything.");
-        for (String[] rules : new String[][] {{}, {"A->"}, {"A->aAb", "B->c"}, TWELVE_SYMBOLS, EIGHT_RULES}) {
-            Unchanged.by(CHECK, "EDIT: all getters", edit(rules), PhasesTest::askAll, 0);
-        }
-    }
-
-    private static void gettersInBuilt() {
-        CHECK.says("Getters never change anything.");
-        for (String word : new String[] {"", "a", "aac", "ba", "aaaaaabbbbb", "aaaaaabbbbbb", "aaaaaaaaaaaa"}) {
-            for (String[] rules : new String[][] {{}, {"A->"}, {"A->aAb", "B->c"}, TWELVE_SYMBOLS, EIGHT_RULES}) {
-                Unchanged.by(CHECK, "BUILT: all getters", built(word, rules), PhasesTest::askAll, 0);
-            }
-        }
+        Unchanged.always(CHECK, "all getters", PhasesTest::askAll);
+        Unchanged.always(CHECK, "ruleCount()", x -> x.ruleCount());
+        Unchanged.always(CHECK, "setOf(0)", x -> x.setOf(0));
+        Unchanged.always(CHECK, "setKind(0)", x -> x.setKind(0));
+        Unchanged.always(CHECK, "selfEmbedding()", x -> x.selfEmbedding() ? 1 : 0);
+        Unchanged.always(CHECK, "transformedRuleCount()", x -> x.transformedRuleCount());
+        Unchanged.always(CHECK, "inputLength()", x -> x.inputLength());
+        Unchanged.always(CHECK, "approxAccepts()", x -> x.approxAccepts() ? 1 : 0);
+        Unchanged.always(CHECK, "grammarAccepts()", x -> x.grammarAccepts() ? 1 : 0);
+        Unchanged.always(CHECK, "approxLive()", x -> x.approxLive() ? 1 : 0);
+        Unchanged.always(CHECK, "nextMask()", x -> x.nextMask());
     }
 
     /** The answers are looked at elsewhere; here they only have to leave no trace. */
@@ -204,12 +188,12 @@ public final class PhasesTest {
         CHECK.says("Any int is accepted as an argument, including negative values and the extremes `Integer.MIN_VALUE` "
                 + "and `Integer.MAX_VALUE`, and the answer is always the one stated here; no argument causes an exception "
                 + "or an arithmetic wrap-around.");
-        RegApprox none = edit().get();
+        RegApprox none = States.edit().get();
         far("no rule: rule", none::rule, RANGE);
         far("no rule: terminal", none::terminal, NO_RULE);
         far("no rule: nonterminal", none::nonterminal, NO_RULE);
-        for (String[] rules : new String[][] {{"A->"}, {"A->aAbc"}, TWELVE_SYMBOLS, EIGHT_RULES}) {
-            RegApprox x = edit(rules).get();
+        for (String[] rules : States.grammars().subList(1, States.grammars().size())) {
+            RegApprox x = States.edit(rules).get();
             far("rule", x::rule, RANGE);
             far("terminal", x::terminal, RANGE);
             far("nonterminal", x::nonterminal, RANGE);
@@ -217,8 +201,8 @@ public final class PhasesTest {
             far("EDIT: setKind", x::setKind, PHASE);
             far("EDIT: feed", x::feed, PHASE);
         }
-        for (String word : new String[] {"", "aac", "aaaaaabbbbbb"}) {
-            RegApprox x = built(word, EIGHT_RULES).get();
+        for (String word : States.WORDS) {
+            RegApprox x = States.built(word, "A->aAb", "A->bB", "B->a").get();
             far("BUILT: rule", x::rule, PHASE);
             far("BUILT: terminal", x::terminal, PHASE);
             far("BUILT: nonterminal", x::nonterminal, PHASE);

@@ -1,4 +1,5 @@
 import java.util.ArrayList;
+import java.util.Collections;
 import java.util.List;
 import java.util.function.Function;
 import java.util.function.Supplier;
@@ -6,13 +7,15 @@ import java.util.function.ToIntFunction;
 
 /** Shows that a call changes nothing: whatever is called afterwards is answered as by an object without that call. */
 final class Unchanged {
-    private static final List<Function<RegApprox, List<String>>> COURSES =
-            List.of(Unchanged::asked, Unchanged::built, Unchanged::entered, Unchanged::fed);
-    private static final List<String> WORDS = words();
+    private static final List<Function<RegApprox, List<String>>> COURSES = List.of(Unchanged::asked,
+            Unchanged::askedFromTheEnd, Unchanged::built, Unchanged::entered, Unchanged::fed);
+    private static final String[] WORDS = {"", "a", "b", "c", "aa", "ab", "ba", "bb", "ac", "cb", "aab", "aba", "abb",
+        "acb", "baa", "bab", "bbb"};
 
     private Unchanged() {
     }
 
+    /** In this state the call answers `due`, each time anew, and changes nothing. */
     static void by(Check check, String what, Supplier<RegApprox> state, ToIntFunction<RegApprox> call, int due) {
         for (Function<RegApprox, List<String>> course : COURSES) {
             RegApprox x = state.get();
@@ -30,19 +33,61 @@ final class Unchanged {
         }
     }
 
-    /** What every getter answers, with arguments in range and out of it. */
+    static void inEdit(Check check, String what, ToIntFunction<RegApprox> call, int due) {
+        for (String[] rules : States.grammars()) {
+            by(check, "EDIT: " + what, States.edit(rules), call, due);
+        }
+    }
+
+    static void inBuilt(Check check, String what, ToIntFunction<RegApprox> call, int due) {
+        for (String[] rules : States.grammars()) {
+            for (String word : States.WORDS) {
+                by(check, "BUILT: " + what, States.built(word, rules), call, due);
+            }
+        }
+    }
+
+    /** For a call whose answers are looked at elsewhere. */
+    static void always(Check check, String what, ToIntFunction<RegApprox> call) {
+        inEdit(check, what, x -> call.applyAsInt(x) * 0, 0);
+        inBuilt(check, what, x -> call.applyAsInt(x) * 0, 0);
+    }
+
+    /** What every getter answers. Those with an argument out of range stand apart, since they are refused. */
     private static List<String> asked(RegApprox x) {
         List<String> told = new ArrayList<>();
-        told.add("ruleCount()=" + x.ruleCount());
-        for (int a = -1; a <= 6; a++) {
-            told.add("setOf(" + a + ")=" + x.setOf(a));
-            told.add("setKind(" + a + ")=" + x.setKind(a));
+        for (Function<RegApprox, String> getter : getters()) {
+            told.add(getter.apply(x));
         }
-        told.add("selfEmbedding()=" + x.selfEmbedding());
-        told.add("transformedRuleCount()=" + x.transformedRuleCount());
-        told.add("inputLength()=" + x.inputLength());
-        told.add("w: " + Given.answers(x));
         return told;
+    }
+
+    /** The other way round, so that each getter is asked once before each other one has been called. */
+    private static List<String> askedFromTheEnd(RegApprox x) {
+        List<Function<RegApprox, String>> getters = getters();
+        Collections.reverse(getters);
+        List<String> told = new ArrayList<>();
+        for (Function<RegApprox, String> getter : getters) {
+            told.add(getter.apply(x));
+        }
+        return told;
+    }
+
+    private static List<Function<RegApprox, String>> getters() {
+        List<Function<RegApprox, String>> getters = new ArrayList<>();
+        getters.add(x -> "ruleCount()=" + x.ruleCount());
+        getters.add(x -> "selfEmbedding()=" + x.selfEmbedding());
+        getters.add(x -> "transformedRuleCount()=" + x.transformedRuleCount());
+        getters.add(x -> "inputLength()=" + x.inputLength());
+        getters.add(x -> "setOf of 0, 1, 2=" + x.setOf(0) + x.setOf(1) + x.setOf(2));
+        getters.add(x -> "setKind of 0, 1, 2=" + x.setKind(0) + x.setKind(1) + x.setKind(2));
+        getters.add(x -> "setOf of -1, 6=" + x.setOf(-1) + x.setOf(6));
+        getters.add(x -> "setKind of -1, 6=" + x.setKind(-1) + x.setKind(6));
+        getters.add(x -> "approxAccepts()=" + x.approxAccepts());
+        getters.add(x -> "grammarAccepts()=" + x.grammarAccepts());
+        getters.add(x -> "approxLive()=" + x.approxLive());
+        getters.add(x -> "nextMask()=" + x.nextMask());
+        return getters;
     }
 
     private static List<String> built(RegApprox x) {
@@ -88,15 +133,5 @@ final class Unchanged {
             told.add("w=" + word + " inputLength()=" + x.inputLength() + ": " + Given.answers(x));
         }
         return told;
-    }
-
-    private static List<String> words() {
-        List<String> words = new ArrayList<>(List.of(""));
-        for (int i = 0; words.get(i).length() < 3; i++) {
-            for (char token : "abc".toCharArray()) {
-                words.add(words.get(i) + token);
-            }
-        }
-        return words;
     }
 }
