@@ -10,6 +10,7 @@ public final class AppendTest {
     private static final int NO_RULE = RegApprox.ERR_NO_RULE;
 
     private static final Check CHECK = new Check("AppendTest");
+
     private final boolean terminals;
     private final int bound;
     private final String name;

@@ -33,6 +33,10 @@ final class Given {
     /** Puts this word in place of w. */
     static RegApprox word(RegApprox x, String word) {
         taken(x.clearInput(), "clearInput()");
+        return fed(x, word);
+    }
+
+    static RegApprox fed(RegApprox x, String word) {
         for (char token : word.toCharArray()) {
             taken(x.feed(token - 'a'), word);
         }

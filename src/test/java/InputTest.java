@@ -32,7 +32,7 @@ public final class InputTest {
     }
 
     private static Supplier<RegApprox> pairs(String word) {
-        return () -> Given.word(Given.built(3, 2, "A->aAb", "A->B", "B->"), word);
+        return () -> Given.fed(Given.built(3, 2, "A->aAb", "A->B", "B->"), word);
     }
 
     // ---- Promise 11 ----
@@ -141,6 +141,7 @@ public final class InputTest {
         CHECK.due("setOf(0)", x.setOf(0), 0);
         CHECK.due("setOf(1)", x.setOf(1), 0);
         CHECK.due("setOf(2)", x.setOf(2), 2);
+        CHECK.due("setKind(0)", x.setKind(0), RegApprox.KIND_SELF);
         CHECK.due("setKind(1)", x.setKind(1), RegApprox.KIND_SELF);
         CHECK.due("setKind(2)", x.setKind(2), RegApprox.KIND_PLAIN);
         CHECK.due("selfEmbedding()", x.selfEmbedding(), true);

@@ -39,7 +39,7 @@ final class States {
     }
 
     static Supplier<RegApprox> built(String word, String... rules) {
-        return () -> Given.word(Given.built(N, T, rules), word);
+        return () -> Given.fed(Given.built(N, T, rules), word);
     }
 
     /** Every grammar of the lists above, and the one without rules. */

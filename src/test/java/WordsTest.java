@@ -27,7 +27,7 @@ public final class WordsTest {
     }
 
     private static Supplier<RegApprox> built(String word, String... rules) {
-        return () -> Given.word(Given.built(3, 3, rules), word);
+        return () -> Given.fed(Given.built(3, 3, rules), word);
     }
 
     private static void answers(String call, Predicate<RegApprox> asked, boolean due, String word, String... rules) {
